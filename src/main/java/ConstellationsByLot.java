@@ -1116,11 +1116,13 @@ public final class ConstellationsByLot {
 
         private void findPoints(Sky sky) {
             count = 0;
+            Arrays.fill(keeps, 0);
             for (int p = 0; p < sky.pointCount && count < MOST_SHARED; p++) {
                 if (sky.isShared(p)) {
                     points[count] = p;
                     wanters[count] = sky.wantersOf(p);
                     owners[count] = nextWanter(count, 0);
+                    turnKeep(count);
                     count++;
                 }
             }
@@ -1159,12 +1161,6 @@ public final class ConstellationsByLot {
 
         /** Stops at a WORTH that is not above the best so far: that row can't be chosen. */
         private int leastWorth(int parishes) {
-            Arrays.fill(keeps, 0);
-            for (int i = 0; i < count; i++) {
-                if (owners[i] < MOST_PARISHES) {
-                    keeps[owners[i]] |= 1 << i;
-                }
-            }
             int least = Integer.MAX_VALUE;
             for (int p = 0; p < parishes && least > best; p++) {
                 least = Math.min(least, worths[p * KEEPS + keeps[p]]);
@@ -1174,14 +1170,23 @@ public final class ConstellationsByLot {
 
         private boolean nextRow() {
             for (int i = count - 1; i >= 0; i--) {
+                turnKeep(i);
                 int next = nextWanter(i, owners[i] + 1);
-                if (next < MOST_PARISHES) {
-                    owners[i] = next;
+                boolean isLast = next == MOST_PARISHES;
+                owners[i] = isLast ? nextWanter(i, 0) : next;
+                turnKeep(i);
+                if (!isLast) {
                     return true;
                 }
-                owners[i] = nextWanter(i, 0);
             }
             return false;
+        }
+
+        /** What each keeps goes along with the owners, since to find it anew for all rows is dear. */
+        private void turnKeep(int i) {
+            if (owners[i] < MOST_PARISHES) {
+                keeps[owners[i]] ^= 1 << i;
+            }
         }
 
         private int nextWanter(int i, int from) {

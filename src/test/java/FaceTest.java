@@ -33,6 +33,10 @@ public final class FaceTest {
             int is = inner.getModifiers();
             boolean fits = Modifier.isStatic(is) && !Modifier.isPublic(is) && !Modifier.isProtected(is);
             checks.holds(inner.getName() + " is static and not seen", fits);
+            for (Method method : inner.getDeclaredMethods()) {
+                boolean isCalls = Arrays.stream(FACE).anyMatch(call -> call.contains(" " + method.getName() + "("));
+                checks.holds(method + " has a name of its own", !isCalls);
+            }
         }
         checks.finish();
     }

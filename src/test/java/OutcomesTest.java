@@ -10,6 +10,7 @@ public final class OutcomesTest {
     public static void main(String[] args) {
         promise22Shift();
         promise22ShiftAsSets();
+        promise22ShiftInAnyOrder();
         promise22ShiftRefusals();
         promise23Joined();
         promise23New();
@@ -79,6 +80,36 @@ public final class OutcomesTest {
         x.wants(0, 2, false);
         checks.due("no LINES at all", x.shift(0, 1), NONE);
         checks.due("NONE isn't refused", x.status(12), 0);
+    }
+
+    /** The uppermost and the leftmost CELL may stand in any LINE, told first or last. */
+    private static void promise22ShiftInAnyOrder() {
+        int[] cells = {5, 14, 23, 16};
+        int[][] orders = {{0, 1, 2, 3}, {3, 2, 1, 0}, {1, 3, 0, 2}, {2, 0, 3, 1}};
+        for (int[] order : orders) {
+            for (int back = 0; back < 2; back++) {
+                ConstellationsByLot x = new ConstellationsByLot();
+                for (int cell : cells) {
+                    x.point(cell, 1);
+                }
+                for (int cell : cells) {
+                    x.point(cell + 63, 1);
+                }
+                x.parish(0, 0);
+                x.parish(0, 0);
+                Checks.wants(x, 0, 0, 1, 2, 3);
+                Checks.wants(x, 1, 4, 5, 6, 7);
+                Checks.lines(x, 0, 0, 1, 1, 2, 2, 3);
+                for (int i : order) {
+                    x.line(1, 4 + (back == 0 ? i : (i + 1) % 4), 4 + (back == 0 ? (i + 1) % 4 : i));
+                }
+                checks.due("one LINE more there", x.shift(0, 1), NONE);
+                checks.due("one LINE fewer there", x.shift(1, 0), NONE);
+                x.line(0, 3, 0);
+                checks.due("there", x.shift(0, 1), 5653);
+                checks.due("back", x.shift(1, 0), 4447);
+            }
+        }
     }
 
     private static void promise22ShiftRefusals() {
@@ -215,6 +246,7 @@ public final class OutcomesTest {
         checks.due("the first of several", x.share(0), 0);
         Checks.lines(x, 0, 0, 1, 0, 3);
         Checks.lines(x, 1, 1, 2);
+        checks.due("to whom, asked first", x.share(0), 1);
         checks.due("how much", x.share(-1), 11);
         checks.due("to whom", x.share(0), 1);
         checks.due("i 1", x.share(1), BAD);

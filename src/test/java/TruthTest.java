@@ -14,6 +14,7 @@ public final class TruthTest {
         promise33Seed();
         promise34Image();
         promise35Back();
+        promise35BackAndNewOnes();
         promise35BackAndShelves();
         promise36Status();
         checks.finish();
@@ -203,11 +204,25 @@ public final class TruthTest {
             checks.due("CELL", x.pointOf(1, 0), 13);
             checks.due("BRIGHT", x.pointOf(1, 1), 4);
         }
+    }
+
+    /** What a PARISH was before back must not come again with a new one of its number. */
+    private static void promise35BackAndNewOnes() {
+        ConstellationsByLot x = small();
+        x.image();
+        x.point(50, 9);
+        x.parish(2, 2);
+        Checks.wants(x, 0, 2);
+        Checks.wants(x, 1, 0, 2);
+        Checks.lines(x, 1, 2, 0);
+        checks.due("a LINE of the new one", x.parishOf(1, 2), 1);
+        x.back();
         checks.due("a new POINT", x.point(3, 3), 2);
         checks.due("is WANTED by none", x.pointOf(2, 2), 0);
         checks.due("a new PARISH", x.parish(0, 0), 1);
         checks.due("WANTS none", x.parishOf(1, 10), 0);
         checks.due("has no LINES", x.parishOf(1, 2), 0);
+        checks.due("LINES", x.status(3), 1);
     }
 
     private static void promise35BackAndShelves() {
@@ -232,6 +247,11 @@ public final class TruthTest {
         checks.due("says", x.says(0, 0), 6);
         x.parish(2, 2);
         checks.due("it stays NOTHING", x.holds(2), NONE);
+        for (int s = 0; s < 8; s++) {
+            x.show(s, 1);
+        }
+        x.back();
+        checks.due("all SHELVES hold NOTHING", x.status(8), 0);
     }
 
     private static void promise36Status() {
