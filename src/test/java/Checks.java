@@ -1,3 +1,6 @@
+import java.lang.reflect.Method;
+import java.util.Arrays;
+import java.util.Comparator;
 import java.util.Random;
 
 /** Counts answers that are not as due, and has the few moves that most tests make. */
@@ -26,6 +29,26 @@ final class Checks {
 
     boolean isClean() {
         return wrong == 0;
+    }
+
+    /** Finds the tests by their names, so that none can be written and then not be run. */
+    static void runAll(Class<?> tests, String start) throws Exception {
+        Method[] all = tests.getDeclaredMethods();
+        Arrays.sort(all, Comparator.comparing(Method::getName));
+        int run = 0;
+        for (Method test : all) {
+            if (test.getName().startsWith(start) && test.getParameterCount() == 0) {
+                test.setAccessible(true);
+                test.invoke(null);
+                run++;
+            }
+        }
+        System.out.println(tests.getName() + ": " + run + " tests");
+    }
+
+    /** The first numbers that may not be, on either side, and the furthest. */
+    static int[] outside(int least, int most) {
+        return new int[] {least - 1, most + 1, Integer.MIN_VALUE, Integer.MAX_VALUE};
     }
 
     /** Ends the program with exit code 1, if an answer was wrong. */
@@ -65,6 +88,57 @@ final class Checks {
         for (int i = 0; i + 1 < ends.length; i += 2) {
             x.line(parish, ends[i], ends[i + 1]);
         }
+    }
+
+    /** All LINES there can be among the first POINTS: of 5 POINTS those are 10. */
+    static void allLines(ConstellationsByLot x, int parish, int points) {
+        for (int p = 0; p < points; p++) {
+            for (int q = p + 1; q < points; q++) {
+                x.line(parish, p, q);
+            }
+        }
+    }
+
+    /** So many POINTS of BRIGHT 1, side by side from CELL 0 on. */
+    static void rowOfPoints(ConstellationsByLot x, int n) {
+        for (int i = 0; i < n; i++) {
+            x.point(i, 1);
+        }
+    }
+
+    static void parishes(ConstellationsByLot x, int... kinds) {
+        for (int kind : kinds) {
+            x.parish(kind, 0);
+        }
+    }
+
+    /**
+     * Something of everything: 4 POINTS, 2 PARISHES, 3 LINES, an image of less, and SHELVES with a ROW
+     * of 3 ints (0), of 40 bytes (1), of no shorts (4), with PARISH 0 (2) and PARISH 1 (7); the others
+     * hold NOTHING.
+     */
+    static void some(ConstellationsByLot x) {
+        points(x, 0, 9, 9, 1, 55, 5);
+        x.parish(1, 3);
+        wants(x, 0, 0, 1, 2);
+        lines(x, 0, 0, 1);
+        x.image();
+        x.point(99, 9);
+        x.parish(4, 0);
+        wants(x, 1, 1, 2, 3);
+        lines(x, 0, 2, 0);
+        lines(x, 1, 3, 1);
+        x.cloud(5);
+        x.seed(99);
+        x.row(0, 2, 3);
+        x.set(0, 0, 7);
+        x.set(0, 2, -7);
+        x.row(1, 0, 40);
+        x.set(1, 39, 77);
+        x.row(4, 1, 0);
+        x.show(2, 0);
+        x.show(7, 1);
+        feedAll(x, "cloud 9");
     }
 
     static int oneOf(Random random, int... values) {
