@@ -314,6 +314,24 @@ public final class EdgesOfJudgesTest {
         stuckPair(3, 3);
     }
 
+    private static void promise29TheFirstAndTheLastPair() {
+        int[] atFault = {0, 1, 19};
+        for (int pair : atFault) {
+            Consumer<ConstellationsByLot> start = x -> {
+                Checks.rowOfPoints(x, 2);
+                x.parish(0, 0);
+                x.row(0, 0, 40);
+                for (int i = 1; i < 40; i += 2) {
+                    x.set(0, i, 1);
+                }
+                x.set(0, 2 * pair, 1);
+            };
+            twins.refused("like POINTS in pair " + pair, start, x -> x.whose(0, pair + 1, 0), STUCK);
+            twins.refused("like POINTS in pair " + pair + " of 20", start, x -> x.whose(0, 20, 1), STUCK);
+            twins.changesNothing("those ahead of pair " + pair, start, x -> x.whose(0, pair, 1), pair == 0 ? 0 : 1);
+        }
+    }
+
     /** A long that would be a POINT, were it cut to an int. */
     private static void promise29NumbersThatWouldWrapAround() {
         stuckPair(1L << 32, 1);

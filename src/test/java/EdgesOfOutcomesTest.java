@@ -77,6 +77,15 @@ public final class EdgesOfOutcomesTest {
         shifts(18, 9, 19, 10, NONE);
     }
 
+    /** The end that lies higher or further left may be told first or last. */
+    private static void promise22ToldTheOtherWay() {
+        shifts(44, 35, 64, 55, 5250);
+        shifts(35, 44, 64, 55, 5250);
+        shifts(44, 35, 55, 64, 5250);
+        shifts(33, 44, 66, 55, 5252);
+        shifts(44, 33, 55, 66, 5252);
+    }
+
     private static void promise22NotTheSameFigure() {
         shifts(0, 1, 0, 10, NONE);
         shifts(0, 1, 0, 2, NONE);
@@ -410,6 +419,24 @@ public final class EdgesOfOutcomesTest {
         checks.due("another shared POINT", x.status(5), 6);
     }
 
+    /** Only the last row of all, each POINT to the last PARISH, leaves it all its ten LINES. */
+    private static void promise24TheLastRow() {
+        ConstellationsByLot x = new ConstellationsByLot();
+        Checks.points(x, 0, 1, 1, 1, 2, 1, 3, 1, 4, 1, 5, 9, 6, 9);
+        Checks.parishes(x, 0, 0, 0, 0, 0, 0);
+        for (int p = 0; p < 6; p++) {
+            Checks.wants(x, p, 0, 1, 2, 3, 4, 5, 6);
+        }
+        for (int p = 0; p < 5; p++) {
+            x.line(p, 5, 6);
+        }
+        Checks.allLines(x, 5, 5);
+        checks.due("how much", x.share(NONE), 15);
+        for (int i = 0; i < 5; i++) {
+            checks.due("to whom " + i, x.share(i), 5);
+        }
+    }
+
     /** Of several the first row by PARISHES: the first POINT's owner counts most. */
     private static void promise24TheFirstRow() {
         ConstellationsByLot x = made(y -> Checks.rowOfPoints(y, 4));
@@ -520,6 +547,19 @@ public final class EdgesOfOutcomesTest {
         checks.due("0 2, 2 3, 3 1", x.colours(), 2);
     }
 
+    private static void promise25BoundNoMore() {
+        ConstellationsByLot x = made(y -> Checks.rowOfPoints(y, 1));
+        for (int p = 0; p < 6; p++) {
+            x.parish(0, 0);
+            x.wants(p, 0, true);
+        }
+        for (int p = 5; p >= 0; p--) {
+            checks.due("bound: " + (p + 1), x.colours(), p + 1);
+            x.wants(p, 0, false);
+        }
+        checks.due("none bound", x.colours(), 1);
+    }
+
     // ---- 26: way
 
     /** PARISHES in a chain: each shares one POINT with the next. */
@@ -554,6 +594,15 @@ public final class EdgesOfOutcomesTest {
         twins.changesNothing("cut off", cut, x -> x.way(0, 5), NONE);
         twins.changesNothing("cut off, back", cut, x -> x.way(5, 0), NONE);
         twins.changesNothing("no POINTS", x -> Checks.parishes(x, 0, 0), x -> x.way(0, 1), NONE);
+    }
+
+    private static void promise26BoundNoMore() {
+        ConstellationsByLot x = made(EdgesOfOutcomesTest::chain);
+        for (int p = 5; p >= 1; p--) {
+            checks.due("to " + p, x.way(0, p), p);
+            x.wants(p, p - 1, false);
+            checks.due("to " + p + " no more", x.way(0, p), NONE);
+        }
     }
 
     private static void promise26Bad() {

@@ -296,6 +296,19 @@ public final class EdgesOfTapeTest {
         fault("cloud 1;^1");
     }
 
+    /** Each letter of a word counts, the first and the last too. */
+    private static void promise17WordsWithOneLetterChanged() {
+        String[] statements = {"point 1 1", "parish 1 1", "wants 0 0", "line 0 0 1", "cloud 1"};
+        for (String statement : statements) {
+            int letters = statement.indexOf(' ');
+            reads(EdgesOfTapeTest::small, statement, 1);
+            for (int i = 0; i < letters; i++) {
+                fault(EdgesOfTapeTest::small, "^" + statement.substring(0, i) + "q" + statement.substring(i + 1));
+                fault(EdgesOfTapeTest::small, "^" + statement.substring(0, i) + statement.substring(i + 1));
+            }
+        }
+    }
+
     private static void promise17SemicolonsBetween() {
         fault("cloud 1;^");
         fault("cloud 1; ^");

@@ -78,13 +78,16 @@ final class Twins {
     }
 
     private enum Part {
-        SKY, ROWS, TAPE, IMAGE;
+        SKY, LOWER_ROWS, UPPER_ROWS, TAPE, IMAGE;
 
         List<Long> told(ConstellationsByLot x) {
             List<Long> all = new ArrayList<>();
             switch (this) {
-                case ROWS:
-                    tellRows(x, all);
+                case LOWER_ROWS:
+                    tellRows(x, 0, 3, all);
+                    break;
+                case UPPER_ROWS:
+                    tellRows(x, 4, 7, all);
                     break;
                 case TAPE:
                     all.add((long) x.sky());
@@ -123,8 +126,8 @@ final class Twins {
             }
         }
 
-        private static void tellRows(ConstellationsByLot x, List<Long> all) {
-            for (int s = 0; s < 8; s++) {
+        private static void tellRows(ConstellationsByLot x, int from, int to, List<Long> all) {
+            for (int s = from; s <= to; s++) {
                 all.add((long) x.holds(s));
                 for (int i = 0; i < 40; i++) {
                     all.add(x.element(s, i));
