@@ -35,6 +35,8 @@ public final class ConstellationsByLot {
     private static final int MOST_ELEMENTS = 40;
     private static final int PARISH_BASE = 10;
     private static final int WAYS_OF_CLOUD = 12;
+    /** To find a least one: no LENGTH and no WORTH comes near it. */
+    private static final int ABOVE_ALL = 1_000_000;
 
     private static final int PARISH = 0;
     private static final int PROUD = 1;
@@ -675,7 +677,7 @@ public final class ConstellationsByLot {
             ways *= clear;
             allWays *= WAYS_OF_CLOUD;
         }
-        return (int) (ways / allWays);
+        return allWays > 0 ? (int) (ways / allWays) : 0;
     }
 
     /** A PARISH with its LINES, each as the two POINTS told and, to compare, as their two bits. */
@@ -880,10 +882,10 @@ public final class ConstellationsByLot {
             int sum = 0;
             for (int k = 0; k < MOST_POINTS && in != wanted; k++) {
                 int nearest = 0;
-                int least = Integer.MAX_VALUE;
+                int least = ABOVE_ALL;
                 for (int p = 0; p < pointCount; p++) {
                     boolean isLeft = ((wanted & ~in) >> p & 1) != 0;
-                    int length = isLeft ? lengthTo(p, in) : Integer.MAX_VALUE;
+                    int length = isLeft ? lengthTo(p, in) : ABOVE_ALL;
                     if (length < least) {
                         least = length;
                         nearest = p;
@@ -896,7 +898,7 @@ public final class ConstellationsByLot {
         }
 
         private int lengthTo(int p, int bits) {
-            int least = Integer.MAX_VALUE;
+            int least = ABOVE_ALL;
             for (int q = 0; q < pointCount; q++) {
                 if ((bits >> q & 1) != 0) {
                     least = Math.min(least, length(p, q));
@@ -1161,7 +1163,7 @@ public final class ConstellationsByLot {
 
         /** Stops at a WORTH that is not above the best so far: that row can't be chosen. */
         private int leastWorth(int parishes) {
-            int least = Integer.MAX_VALUE;
+            int least = ABOVE_ALL;
             for (int p = 0; p < parishes && least > best; p++) {
                 least = Math.min(least, worths[p * KEEPS + keeps[p]]);
             }

@@ -1,6 +1,16 @@
+import java.lang.reflect.Array;
+import java.lang.reflect.Field;
+import java.lang.reflect.Modifier;
 import java.nio.charset.StandardCharsets;
 import java.nio.file.Files;
 import java.nio.file.Path;
+import java.util.ArrayDeque;
+import java.util.Arrays;
+import java.util.Collections;
+import java.util.Deque;
+import java.util.IdentityHashMap;
+import java.util.List;
+import java.util.Set;
 import java.util.regex.Matcher;
 import java.util.regex.Pattern;
 
@@ -17,6 +27,11 @@ public final class RulesTest {
         members(code);
         library(code);
         methods(code);
+        sizes(ConstellationsByLot.class);
+        for (Class<?> inner : ConstellationsByLot.class.getDeclaredClasses()) {
+            sizes(inner);
+        }
+        room();
         checks.finish();
     }
 
@@ -61,6 +76,9 @@ public final class RulesTest {
             boolean may = imports.group(1).matches("java\\.util\\.(Arrays|ArrayList|List|Iterator)");
             checks.holds("rule 4: import " + imports.group(1), may);
         }
+        none("rule 4: Integer, Long and Math have functions alone", code, "\\b(Integer|Long|Math)\\.(?!\\w+\\()");
+        none("rule 4: functions over int and long", code,
+                "\\b(Integer|Long|Math)\\.(?!(compare|max|min|abs|bitCount|numberOfTrailingZeros|floorDiv|floorMod)\\b)\\w+");
         none("rule 4: System", code, "\\bSystem\\.(?!arraycopy\\b)\\w+");
         none("rule 4: Arrays", code, "\\bArrays\\.(?!(fill|copyOf|copyOfRange)\\b)\\w+");
         Matcher made = Pattern.compile("(?m)^.*\\bnew \\w+.*$").matcher(code);
@@ -92,5 +110,62 @@ public final class RulesTest {
             checks.holds("rule 11: parameters of " + lines[i].trim(), method.group(2).split(",").length <= 7);
         }
         checks.holds("methods were found", count > 36);
+    }
+
+    private static void sizes(Class<?> of) {
+        int fields = 0;
+        for (Field field : of.getDeclaredFields()) {
+            boolean isStatic = Modifier.isStatic(field.getModifiers());
+            fields += isStatic ? 0 : 1;
+            checks.holds("rule 5: " + field, !isStatic || Modifier.isFinal(field.getModifiers()));
+        }
+        checks.holds("rule 11: " + of.getName() + " has " + fields + " fields", fields <= 20);
+        checks.due("rule 2: classes inside " + of.getName(),
+                of.getDeclaredClasses().length, of == ConstellationsByLot.class ? 8 : 0);
+    }
+
+    /** One object with all that it holds; no call makes another, so this is all there ever is of it. */
+    private static void room() throws Exception {
+        ConstellationsByLot x = new ConstellationsByLot();
+        Set<Object> ahead = held(x);
+        int elements = 0;
+        for (Object part : ahead) {
+            elements += part.getClass().isArray() ? Array.getLength(part) : part.getClass().getDeclaredFields().length;
+        }
+        checks.holds("rule 12: an object holds " + ahead.size() + " others", ahead.size() <= 120);
+        checks.holds("rule 12: an object has " + elements + " fields and elements", elements <= 2500);
+        Checks.some(x);
+        x.sky();
+        x.nights(9);
+        x.share(0);
+        x.colours();
+        x.image();
+        x.back();
+        checks.holds("rule 12: the calls keep to what was made with the object", held(x).equals(ahead));
+    }
+
+    private static Set<Object> held(Object from) throws Exception {
+        Set<Object> seen = Collections.newSetFromMap(new IdentityHashMap<>());
+        Deque<Object> left = new ArrayDeque<>(List.of(from));
+        while (!left.isEmpty()) {
+            Object next = left.pop();
+            if (seen.add(next)) {
+                parts(next, left);
+            }
+        }
+        return seen;
+    }
+
+    private static void parts(Object of, Deque<Object> left) throws Exception {
+        if (of instanceof Object[] row) {
+            left.addAll(Arrays.asList(row));
+            return;
+        }
+        for (Field field : of.getClass().getDeclaredFields()) {
+            if (!field.getType().isPrimitive() && !Modifier.isStatic(field.getModifiers())) {
+                field.setAccessible(true);
+                left.push(field.get(of));
+            }
+        }
     }
 }
