@@ -1,7 +1,10 @@
 import java.lang.reflect.Method;
+import java.util.ArrayList;
 import java.util.Arrays;
 import java.util.Comparator;
+import java.util.List;
 import java.util.Random;
+import java.util.function.Consumer;
 
 /** Counts answers that are not as due, and has the few moves that most tests make. */
 final class Checks {
@@ -139,6 +142,50 @@ final class Checks {
         x.show(2, 0);
         x.show(7, 1);
         feedAll(x, "cloud 9");
+    }
+
+    static ConstellationsByLot made(Consumer<ConstellationsByLot> start) {
+        ConstellationsByLot x = new ConstellationsByLot();
+        start.accept(x);
+        return x;
+    }
+
+    /** A sky by chance: so many POINTS and PARISHES, each wanting about so many of ten, and some NIGHTS. */
+    static Consumer<ConstellationsByLot> skyByChance(int seed, int points, int parishes, int ofTen) {
+        return x -> {
+            Random random = new Random(seed);
+            int cells = oneOf(random, 4, 20, 100);
+            for (int p = 0; p < points; p++) {
+                x.point(random.nextInt(cells), 1 + random.nextInt(9));
+            }
+            for (int p = 0; p < parishes; p++) {
+                x.parish(random.nextInt(6), random.nextInt(10));
+                for (int q = 0; q < points; q++) {
+                    x.wants(p, q, random.nextInt(10) < ofTen);
+                }
+            }
+            x.seed(seed);
+            x.nights(1 + random.nextInt(12));
+        };
+    }
+
+    /** The numbers of a set told as bits, the least first. */
+    static List<Integer> bits(int set) {
+        List<Integer> all = new ArrayList<>();
+        for (int i = 0; i < 32; i++) {
+            if ((set >> i & 1) != 0) {
+                all.add(i);
+            }
+        }
+        return all;
+    }
+
+    /** A ROW of ints in SHELF s. */
+    static void tell(ConstellationsByLot x, int s, int... points) {
+        x.row(s, 2, points.length);
+        for (int i = 0; i < points.length; i++) {
+            x.set(s, i, points[i]);
+        }
     }
 
     static int oneOf(Random random, int... values) {

@@ -17,7 +17,8 @@ public final class DocumentTest {
     private static final Path DOCUMENT = Path.of("../shared/DOC.md");
     private static final Path SOURCE = Path.of("src/main/java/ConstellationsByLot.java");
     private static final Class<?>[] SAID = {
-        SaidOfTheSkyTest.class, SaidOfFiguresTest.class, SaidOfOutcomesTest.class, SaidByPromisesTest.class,
+        SaidOfTheSkyTest.class, SaidOfFiguresTest.class, SaidOfOutcomesTest.class, SaidOfJudgesAndNightsTest.class,
+        SaidByPromisesTest.class,
     };
     /** Part, where it begins, where it ends. */
     private static final String[][] PARTS = {

@@ -17,12 +17,6 @@ public final class EdgesOfJudgesTest {
         checks.finish();
     }
 
-    private static ConstellationsByLot made(Consumer<ConstellationsByLot> start) {
-        ConstellationsByLot x = new ConstellationsByLot();
-        start.accept(x);
-        return x;
-    }
-
     /** 12 POINTS side by side, and so many PARISHES of KIND 0 who WANT all of them. */
     private static void wanting(ConstellationsByLot x, int count) {
         Checks.rowOfPoints(x, 12);
@@ -63,7 +57,7 @@ public final class EdgesOfJudgesTest {
 
     /** By LAW 4 those without LINES, though they have no STROKES at all, are never picked. */
     private static void promise27NeverPickedWithoutLines() {
-        ConstellationsByLot x = made(y -> wanting(y, 6));
+        ConstellationsByLot x = Checks.made(y -> wanting(y, 6));
         Checks.lines(x, 5, 0, 1, 2, 3, 4, 5);
         checks.due("the last alone has LINES", x.pick(STROKES), 5);
         Checks.lines(x, 3, 0, 1, 2, 3);
@@ -74,7 +68,7 @@ public final class EdgesOfJudgesTest {
     }
 
     private static void promise27TheFirstOfSeveral() {
-        ConstellationsByLot x = made(y -> wanting(y, 3));
+        ConstellationsByLot x = Checks.made(y -> wanting(y, 3));
         Checks.lines(x, 1, 0, 1);
         Checks.lines(x, 2, 10, 11);
         x.wants(0, 5, false);
@@ -85,7 +79,7 @@ public final class EdgesOfJudgesTest {
 
     /** One LINE more decides; by LAW 4 the one with fewer STROKES. */
     private static void promise27JustMore() {
-        ConstellationsByLot x = made(y -> wanting(y, 2));
+        ConstellationsByLot x = Checks.made(y -> wanting(y, 2));
         Checks.lines(x, 0, 0, 1);
         Checks.lines(x, 1, 2, 3, 4, 5);
         int[] due = {1, 1, 1, 0, 0, 1};
@@ -120,7 +114,7 @@ public final class EdgesOfJudgesTest {
     // ---- 28: laws
 
     private static void promise28NoneAndAll() {
-        ConstellationsByLot x = made(y -> wanting(y, 2));
+        ConstellationsByLot x = Checks.made(y -> wanting(y, 2));
         Checks.lines(x, 1, 0, 1);
         checks.due("none", x.laws(0), 0);
         checks.due("all six", x.laws(1), 63);
@@ -132,7 +126,7 @@ public final class EdgesOfJudgesTest {
     }
 
     private static void promise28TheFirstOfSeveral() {
-        ConstellationsByLot x = made(y -> wanting(y, 6));
+        ConstellationsByLot x = Checks.made(y -> wanting(y, 6));
         Checks.lines(x, 4, 0, 1);
         Checks.lines(x, 5, 0, 1);
         checks.due("the first of two", x.laws(4), 63);
@@ -188,7 +182,7 @@ public final class EdgesOfJudgesTest {
 
     /** Twenty pairs that are no LINE, against ten LINES: the most that a figure can differ. */
     private static void promise29TwentyPairs() {
-        ConstellationsByLot x = made(y -> wanting(y, 1));
+        ConstellationsByLot x = Checks.made(y -> wanting(y, 1));
         Checks.allLines(x, 0, 5);
         x.row(0, 1, 40);
         int at = 0;
@@ -206,7 +200,7 @@ public final class EdgesOfJudgesTest {
     }
 
     private static void promise29EachToldPairCountsOnce() {
-        ConstellationsByLot x = made(y -> wanting(y, 1));
+        ConstellationsByLot x = Checks.made(y -> wanting(y, 1));
         tell(x, 0, 3, 4, 5, 5, 4, 4, 5, 0, 1, 1, 0);
         checks.due("told only", x.whose(0, 5, 1), 2);
         x.line(0, 1, 0);
@@ -216,14 +210,14 @@ public final class EdgesOfJudgesTest {
     }
 
     private static void promise29TheFirstOfSeveral() {
-        ConstellationsByLot x = made(y -> wanting(y, 6));
+        ConstellationsByLot x = Checks.made(y -> wanting(y, 6));
         x.line(0, 0, 1);
         x.row(0, 0, 0);
         checks.due("five without LINES", x.whose(0, 0, 0), 1);
     }
 
     private static void promise29TheLastParish() {
-        ConstellationsByLot x = made(y -> wanting(y, 6));
+        ConstellationsByLot x = Checks.made(y -> wanting(y, 6));
         x.line(5, 10, 11);
         tell(x, 7, 2, 11, 10);
         checks.due("the last", x.whose(7, 1, 0), 5);
@@ -266,7 +260,7 @@ public final class EdgesOfJudgesTest {
 
     private static void promise29FewerElements() {
         for (int size = 0; size <= 40; size++) {
-            ConstellationsByLot x = made(y -> wanting(y, 1));
+            ConstellationsByLot x = Checks.made(y -> wanting(y, 1));
             x.row(0, 0, size);
             for (int i = 1; i < size; i += 2) {
                 x.set(0, i, 1);
@@ -342,7 +336,7 @@ public final class EdgesOfJudgesTest {
     }
 
     private static void promise29FirstAndLastPoint() {
-        ConstellationsByLot x = made(y -> wanting(y, 1));
+        ConstellationsByLot x = Checks.made(y -> wanting(y, 1));
         x.line(0, 0, 11);
         tell(x, 0, 0, 11, 0);
         checks.due("POINTS 11 and 0", x.whose(0, 1, 1), 0);
@@ -352,7 +346,7 @@ public final class EdgesOfJudgesTest {
 
     private static void promise30NoneUsed() {
         for (int cloud = 0; cloud <= 12; cloud++) {
-            ConstellationsByLot x = made(y -> wanting(y, 1));
+            ConstellationsByLot x = Checks.made(y -> wanting(y, 1));
             x.cloud(cloud);
             checks.due("all of none, CLOUD " + cloud, x.seen(0, 0), 1000000);
             checks.due("the mean of none, CLOUD " + cloud, x.seen(0, 1), 0);
@@ -360,7 +354,7 @@ public final class EdgesOfJudgesTest {
     }
 
     private static void promise30NoCloud() {
-        ConstellationsByLot x = made(y -> wanting(y, 1));
+        ConstellationsByLot x = Checks.made(y -> wanting(y, 1));
         Checks.allLines(x, 0, 5);
         x.cloud(0);
         checks.due("all", x.seen(0, 0), 1000000);
@@ -368,7 +362,7 @@ public final class EdgesOfJudgesTest {
     }
 
     private static void promise30AllCloud() {
-        ConstellationsByLot x = made(y -> wanting(y, 1));
+        ConstellationsByLot x = Checks.made(y -> wanting(y, 1));
         x.line(0, 0, 1);
         x.cloud(12);
         checks.due("all", x.seen(0, 0), 0);
@@ -378,7 +372,7 @@ public final class EdgesOfJudgesTest {
     /** With CLOUD 11, 1,000,000 by 12 to the power of 2 .. 6: 6944.4, 578.7, 48.2, 4.02, 0.33. */
     private static void promise30Cut() {
         int[] due = {6944, 578, 48, 4, 0};
-        ConstellationsByLot x = made(y -> wanting(y, 1));
+        ConstellationsByLot x = Checks.made(y -> wanting(y, 1));
         x.cloud(11);
         for (int used = 2; used <= 6; used++) {
             x.line(0, used - 2, used - 1);
@@ -389,7 +383,7 @@ public final class EdgesOfJudgesTest {
     /** With CLOUD 11, 1000 times LINES by 144: 6.9, 13.9, 20.8, .. 69.4. */
     private static void promise30CutMean() {
         int[] due = {6, 13, 20, 27, 34, 41, 48, 55, 62, 69};
-        ConstellationsByLot x = made(y -> wanting(y, 1));
+        ConstellationsByLot x = Checks.made(y -> wanting(y, 1));
         x.cloud(11);
         for (int lines = 1; lines <= 10; lines++) {
             x.line(0, lines, 0);
@@ -401,7 +395,7 @@ public final class EdgesOfJudgesTest {
     private static void promise30AllTwelveUsed() {
         int[] due = {1000000, 351995, 112156, 31676, 7707, 1552, 244, 27, 1, 0, 0, 0, 0};
         for (int cloud = 0; cloud <= 12; cloud++) {
-            ConstellationsByLot x = made(y -> wanting(y, 1));
+            ConstellationsByLot x = Checks.made(y -> wanting(y, 1));
             Checks.lines(x, 0, 0, 1, 2, 3, 4, 5, 6, 7, 8, 9, 10, 11);
             x.cloud(cloud);
             checks.due("CLOUD " + cloud, x.seen(0, 0), due[cloud]);

@@ -17,12 +17,6 @@ public final class EdgesOfOutcomesTest {
         checks.finish();
     }
 
-    private static ConstellationsByLot made(Consumer<ConstellationsByLot> start) {
-        ConstellationsByLot x = new ConstellationsByLot();
-        start.accept(x);
-        return x;
-    }
-
     /** One PARISH who WANTS all POINTS, told as cell, bright .. */
     private static ConstellationsByLot one(int kind, int... cellsAndBrights) {
         ConstellationsByLot x = new ConstellationsByLot();
@@ -110,7 +104,7 @@ public final class EdgesOfOutcomesTest {
 
     /** Only USED POINTS are shifted: others one WANTS don't count. */
     private static void promise22PointsNotUsed() {
-        ConstellationsByLot x = made(y -> twoLines(y, 44, 45, 55, 56));
+        ConstellationsByLot x = Checks.made(y -> twoLines(y, 44, 45, 55, 56));
         x.point(0, 1);
         x.wants(0, 4, true);
         checks.due("with another POINT", x.shift(0, 1), 5151);
@@ -241,7 +235,7 @@ public final class EdgesOfOutcomesTest {
     }
 
     private static void promise23NewAtTheEnd() {
-        ConstellationsByLot x = made(y -> Checks.rowOfPoints(y, 12));
+        ConstellationsByLot x = Checks.made(y -> Checks.rowOfPoints(y, 12));
         x.parish(0, 0);
         Checks.wants(x, 0, 10, 11);
         checks.due("the last two", x.better(0, NEW), 1011);
@@ -255,7 +249,7 @@ public final class EdgesOfOutcomesTest {
             Checks.allLines(x, 0, 5);
         };
         twins.changesNothing("ten LINES", start, x -> x.better(0, NEW), NONE);
-        ConstellationsByLot x = made(start);
+        ConstellationsByLot x = Checks.made(start);
         x.drop(0, 3, 4);
         checks.due("nine LINES", x.better(0, NEW), 5);
     }
@@ -301,7 +295,7 @@ public final class EdgesOfOutcomesTest {
     }
 
     private static void promise23WorstOfTen() {
-        ConstellationsByLot x = made(y -> Checks.rowOfPoints(y, 12));
+        ConstellationsByLot x = Checks.made(y -> Checks.rowOfPoints(y, 12));
         x.parish(0, 0);
         Checks.wants(x, 0, 0, 1, 2, 3, 4, 5);
         Checks.allLines(x, 0, 5);
@@ -374,7 +368,7 @@ public final class EdgesOfOutcomesTest {
     /** One who WANTS it alone shares nothing; two do, and so do all six. */
     private static void promise24TwoOrMoreWantIt() {
         for (int count = 1; count <= 6; count++) {
-            ConstellationsByLot x = made(y -> Checks.rowOfPoints(y, 1));
+            ConstellationsByLot x = Checks.made(y -> Checks.rowOfPoints(y, 1));
             for (int p = 0; p < count; p++) {
                 x.parish(0, 0);
                 x.wants(p, 0, true);
@@ -385,7 +379,7 @@ public final class EdgesOfOutcomesTest {
     }
 
     private static void promise24TheLastParish() {
-        ConstellationsByLot x = made(y -> Checks.rowOfPoints(y, 12));
+        ConstellationsByLot x = Checks.made(y -> Checks.rowOfPoints(y, 12));
         Checks.parishes(x, 0, 0, 0, 0, 0, 0);
         for (int p = 0; p < 5; p++) {
             Checks.wants(x, p, 2 * p, 2 * p + 1);
@@ -401,7 +395,7 @@ public final class EdgesOfOutcomesTest {
 
     /** Six PARISHES, five POINTS that all WANT: the greatest number of rows there is. */
     private static void promise24MostRows() {
-        ConstellationsByLot x = made(y -> Checks.rowOfPoints(y, 11));
+        ConstellationsByLot x = Checks.made(y -> Checks.rowOfPoints(y, 11));
         for (int p = 0; p < 6; p++) {
             x.parish(0, 0);
             Checks.wants(x, p, 0, 1, 2, 3, 4, 5 + p);
@@ -439,7 +433,7 @@ public final class EdgesOfOutcomesTest {
 
     /** Of several the first row by PARISHES: the first POINT's owner counts most. */
     private static void promise24TheFirstRow() {
-        ConstellationsByLot x = made(y -> Checks.rowOfPoints(y, 4));
+        ConstellationsByLot x = Checks.made(y -> Checks.rowOfPoints(y, 4));
         Checks.parishes(x, 0, 0);
         Checks.wants(x, 0, 0, 1, 2);
         Checks.wants(x, 1, 0, 1, 3);
@@ -451,7 +445,7 @@ public final class EdgesOfOutcomesTest {
     }
 
     private static void promise24SixthSharedStays() {
-        ConstellationsByLot x = made(y -> shared(y, 7));
+        ConstellationsByLot x = Checks.made(y -> shared(y, 7));
         Checks.lines(x, 0, 6, 7);
         Checks.lines(x, 1, 6, 7);
         checks.due("the sixth and seventh are both's", x.share(NONE), 3);
@@ -484,7 +478,7 @@ public final class EdgesOfOutcomesTest {
 
     /** The least of all, though it is one's who shares nothing and has nothing. */
     private static void promise24LeastOfAll() {
-        ConstellationsByLot x = made(EdgesOfOutcomesTest::oneEach);
+        ConstellationsByLot x = Checks.made(EdgesOfOutcomesTest::oneEach);
         x.parish(0, 9);
         checks.due("how much", x.share(NONE), 0);
         checks.due("the first row", x.share(0), 0);
@@ -502,7 +496,7 @@ public final class EdgesOfOutcomesTest {
 
     /** All WANT one POINT: as many colours as PARISHES, up to six. */
     private static void promise25AllBound() {
-        ConstellationsByLot x = made(y -> Checks.rowOfPoints(y, 1));
+        ConstellationsByLot x = Checks.made(y -> Checks.rowOfPoints(y, 1));
         for (int p = 0; p < 6; p++) {
             x.parish(0, 0);
             x.wants(p, 0, true);
@@ -511,7 +505,7 @@ public final class EdgesOfOutcomesTest {
     }
 
     private static void promise25NoneBound() {
-        ConstellationsByLot x = made(y -> Checks.rowOfPoints(y, 12));
+        ConstellationsByLot x = Checks.made(y -> Checks.rowOfPoints(y, 12));
         for (int p = 0; p < 6; p++) {
             x.parish(0, 0);
             Checks.wants(x, p, 2 * p, 2 * p + 1);
@@ -524,7 +518,7 @@ public final class EdgesOfOutcomesTest {
     /** Bound in a ring: an odd one takes three colours, an even one two. */
     private static void promise25Rings() {
         for (int size = 3; size <= 6; size++) {
-            ConstellationsByLot x = made(y -> Checks.rowOfPoints(y, 6));
+            ConstellationsByLot x = Checks.made(y -> Checks.rowOfPoints(y, 6));
             for (int p = 0; p < size; p++) {
                 x.parish(0, 0);
             }
@@ -538,7 +532,7 @@ public final class EdgesOfOutcomesTest {
 
     /** Taking colours in order of numbers would take three here; two are enough. */
     private static void promise25FewestNotFirst() {
-        ConstellationsByLot x = made(y -> Checks.rowOfPoints(y, 3));
+        ConstellationsByLot x = Checks.made(y -> Checks.rowOfPoints(y, 3));
         Checks.parishes(x, 0, 0, 0, 0);
         Checks.wants(x, 0, 0);
         Checks.wants(x, 2, 0, 1);
@@ -548,7 +542,7 @@ public final class EdgesOfOutcomesTest {
     }
 
     private static void promise25BoundNoMore() {
-        ConstellationsByLot x = made(y -> Checks.rowOfPoints(y, 1));
+        ConstellationsByLot x = Checks.made(y -> Checks.rowOfPoints(y, 1));
         for (int p = 0; p < 6; p++) {
             x.parish(0, 0);
             x.wants(p, 0, true);
@@ -597,7 +591,7 @@ public final class EdgesOfOutcomesTest {
     }
 
     private static void promise26BoundNoMore() {
-        ConstellationsByLot x = made(EdgesOfOutcomesTest::chain);
+        ConstellationsByLot x = Checks.made(EdgesOfOutcomesTest::chain);
         for (int p = 5; p >= 1; p--) {
             checks.due("to " + p, x.way(0, p), p);
             x.wants(p, p - 1, false);

@@ -16,12 +16,6 @@ public final class EdgesOfShelvesTest {
         checks.finish();
     }
 
-    private static ConstellationsByLot made(Consumer<ConstellationsByLot> start) {
-        ConstellationsByLot x = new ConstellationsByLot();
-        start.accept(x);
-        return x;
-    }
-
     // ---- 1: a new object
 
     private static void promise01NoPoints() {
@@ -65,7 +59,7 @@ public final class EdgesOfShelvesTest {
     }
 
     private static void promise01TwoObjectsAreApart() {
-        ConstellationsByLot x = made(SOME);
+        ConstellationsByLot x = Checks.made(SOME);
         ConstellationsByLot y = new ConstellationsByLot();
         checks.due("POINTS", y.status(0), 0);
         checks.due("SHELVES", y.status(8), 0);
@@ -105,7 +99,7 @@ public final class EdgesOfShelvesTest {
     }
 
     private static void promise02FirstAndLastSort() {
-        ConstellationsByLot x = made(SOME);
+        ConstellationsByLot x = Checks.made(SOME);
         checks.due("SORT 0", x.row(3, 0, 1), 1);
         checks.due("held", x.holds(3), 0);
         checks.due("SORT 4", x.row(3, 4, 1), 1);
@@ -167,7 +161,7 @@ public final class EdgesOfShelvesTest {
     }
 
     private static void promise02ARowInAParishsPlace() {
-        ConstellationsByLot x = made(SOME);
+        ConstellationsByLot x = Checks.made(SOME);
         checks.due("row", x.row(2, 4, 1), 1);
         checks.due("held", x.holds(2), 4);
         checks.due("SHELVES in use", x.status(8), 5);
@@ -177,7 +171,7 @@ public final class EdgesOfShelvesTest {
     // ---- 3: set
 
     private static void promise03FirstAndLastElement() {
-        ConstellationsByLot x = made(SOME);
+        ConstellationsByLot x = Checks.made(SOME);
         checks.due("the first", x.set(0, 0, 11), 1);
         checks.due("the last", x.set(0, 2, 33), 1);
         checks.due("element 0", x.element(0, 0), 11);
@@ -328,14 +322,14 @@ public final class EdgesOfShelvesTest {
     }
 
     private static void promise04AllOfARow() {
-        ConstellationsByLot x = made(EdgesOfShelvesTest::rows);
+        ConstellationsByLot x = Checks.made(EdgesOfShelvesTest::rows);
         checks.due("4 to 5", x.copy(1, 0, 0, 0, 4), 4);
         isRow("from the first place", x, 0, 20, 21, 22, 23, 14);
         isRow("where they came from", x, 1, 20, 21, 22, 23);
     }
 
     private static void promise04UpToBothEnds() {
-        ConstellationsByLot x = made(EdgesOfShelvesTest::rows);
+        ConstellationsByLot x = Checks.made(EdgesOfShelvesTest::rows);
         checks.due("the last to the last", x.copy(0, 1, 4, 3, 1), 1);
         isRow("then", x, 1, 20, 21, 22, 14);
     }
@@ -366,13 +360,13 @@ public final class EdgesOfShelvesTest {
     }
 
     private static void promise04WithinOneRowAsTheyWere() {
-        ConstellationsByLot onwards = made(EdgesOfShelvesTest::rows);
+        ConstellationsByLot onwards = Checks.made(EdgesOfShelvesTest::rows);
         checks.due("onwards", onwards.copy(0, 0, 0, 1, 4), 4);
         isRow("onwards", onwards, 0, 10, 10, 11, 12, 13);
-        ConstellationsByLot backwards = made(EdgesOfShelvesTest::rows);
+        ConstellationsByLot backwards = Checks.made(EdgesOfShelvesTest::rows);
         checks.due("backwards", backwards.copy(0, 0, 1, 0, 4), 4);
         isRow("backwards", backwards, 0, 11, 12, 13, 14, 14);
-        ConstellationsByLot far = made(EdgesOfShelvesTest::rows);
+        ConstellationsByLot far = Checks.made(EdgesOfShelvesTest::rows);
         checks.due("two further", far.copy(0, 0, 0, 2, 3), 3);
         isRow("two further", far, 0, 10, 11, 10, 11, 12);
         twins.changesNothing("onto itself", EdgesOfShelvesTest::rows, x -> x.copy(0, 0, 0, 0, 5), 5);
@@ -496,7 +490,7 @@ public final class EdgesOfShelvesTest {
     }
 
     private static void promise05NoMoreARow() {
-        ConstellationsByLot x = made(SOME);
+        ConstellationsByLot x = Checks.made(SOME);
         x.show(0, 0);
         checks.due("a PARISH in its place", x.element(0, 0), 0);
         x.show(0, NONE);
@@ -534,7 +528,7 @@ public final class EdgesOfShelvesTest {
     // ---- 7: show
 
     private static void promise07FirstAndLastShelf() {
-        ConstellationsByLot x = made(SOME);
+        ConstellationsByLot x = Checks.made(SOME);
         checks.due("in SHELF 0", x.show(0, 1), 1);
         checks.due("in SHELF 7", x.show(7, 0), 1);
         checks.due("SHELF 0", x.holds(0), 11);
@@ -542,7 +536,7 @@ public final class EdgesOfShelvesTest {
     }
 
     private static void promise07OneParishInAllShelves() {
-        ConstellationsByLot x = made(SOME);
+        ConstellationsByLot x = Checks.made(SOME);
         for (int s = 0; s < 8; s++) {
             checks.due("in SHELF " + s, x.show(s, 1), 1);
         }
@@ -550,7 +544,7 @@ public final class EdgesOfShelvesTest {
     }
 
     private static void promise07Nothing() {
-        ConstellationsByLot x = made(SOME);
+        ConstellationsByLot x = Checks.made(SOME);
         checks.due("for a ROW", x.show(0, NONE), 1);
         checks.due("for a PARISH", x.show(2, NONE), 1);
         checks.due("for NOTHING", x.show(3, NONE), 1);
@@ -643,7 +637,7 @@ public final class EdgesOfShelvesTest {
 
     /** What is in a SHELF is the PARISH itself: it says what it is worth now. */
     private static void promise08AsThingsStandNow() {
-        ConstellationsByLot x = made(y -> oneLine(y, 1));
+        ConstellationsByLot x = Checks.made(y -> oneLine(y, 1));
         x.drop(0, 0, 1);
         checks.due("without LINES", x.says(7, 1), 0);
     }

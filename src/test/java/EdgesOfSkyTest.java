@@ -16,12 +16,6 @@ public final class EdgesOfSkyTest {
         checks.finish();
     }
 
-    private static ConstellationsByLot made(Consumer<ConstellationsByLot> start) {
-        ConstellationsByLot x = new ConstellationsByLot();
-        start.accept(x);
-        return x;
-    }
-
     // ---- 9: point
 
     private static void promise09FirstAndLastCell() {
@@ -69,7 +63,7 @@ public final class EdgesOfSkyTest {
     }
 
     private static void promise09TheTwelfth() {
-        ConstellationsByLot x = made(y -> Checks.rowOfPoints(y, 11));
+        ConstellationsByLot x = Checks.made(y -> Checks.rowOfPoints(y, 11));
         checks.due("the 12th", x.point(99, 9), 11);
         checks.due("POINTS", x.status(0), 12);
         checks.due("its CELL", x.pointOf(11, 0), 99);
@@ -117,14 +111,14 @@ public final class EdgesOfSkyTest {
     }
 
     private static void promise10NoLinesAndNoWantsAtFirst() {
-        ConstellationsByLot x = made(y -> Checks.rowOfPoints(y, 12));
+        ConstellationsByLot x = Checks.made(y -> Checks.rowOfPoints(y, 12));
         x.parish(0, 0);
         checks.due("LINES", x.parishOf(0, 2), 0);
         checks.due("POINTS it WANTS", x.parishOf(0, 10), 0);
     }
 
     private static void promise10TheSixth() {
-        ConstellationsByLot x = made(y -> Checks.parishes(y, 0, 0, 0, 0, 0));
+        ConstellationsByLot x = Checks.made(y -> Checks.parishes(y, 0, 0, 0, 0, 0));
         checks.due("the 6th", x.parish(4, 7), 5);
         checks.due("PARISHES", x.status(1), 6);
         checks.due("its KIND", x.parishOf(5, 0), 4);
@@ -145,7 +139,7 @@ public final class EdgesOfSkyTest {
     // ---- 11: wants
 
     private static void promise11WhetherItDid() {
-        ConstellationsByLot x = made(SOME);
+        ConstellationsByLot x = Checks.made(SOME);
         checks.due("it didn't, it does", x.wants(0, 3, true), 0);
         twins.changesNothing("it did, it does", SOME, y -> y.wants(0, 0, true), 1);
         twins.changesNothing("it didn't, it doesn't", SOME, y -> y.wants(0, 3, false), 0);
@@ -154,7 +148,7 @@ public final class EdgesOfSkyTest {
     }
 
     private static void promise11FirstAndLastOfAll() {
-        ConstellationsByLot x = made(y -> Checks.rowOfPoints(y, 12));
+        ConstellationsByLot x = Checks.made(y -> Checks.rowOfPoints(y, 12));
         Checks.parishes(x, 0, 0, 0, 0, 0, 0);
         checks.due("PARISH 0, POINT 11", x.wants(0, 11, true), 0);
         checks.due("PARISH 5, POINT 0", x.wants(5, 0, true), 0);
@@ -165,7 +159,7 @@ public final class EdgesOfSkyTest {
     }
 
     private static void promise11LinesThereAreGone() {
-        ConstellationsByLot x = made(y -> Checks.rowOfPoints(y, 5));
+        ConstellationsByLot x = Checks.made(y -> Checks.rowOfPoints(y, 5));
         x.parish(0, 0);
         x.parish(0, 0);
         Checks.wants(x, 0, 0, 1, 2, 3, 4);
@@ -182,7 +176,7 @@ public final class EdgesOfSkyTest {
     }
 
     private static void promise11NoneOfItsLinesThere() {
-        ConstellationsByLot x = made(SOME);
+        ConstellationsByLot x = Checks.made(SOME);
         x.wants(0, 3, true);
         checks.due("no LINE there", x.wants(0, 3, false), 1);
         checks.due("LINES", x.parishOf(0, 2), 2);
@@ -213,7 +207,7 @@ public final class EdgesOfSkyTest {
     // ---- 12: line
 
     private static void promise12TheFirstLine() {
-        ConstellationsByLot x = made(y -> Checks.rowOfPoints(y, 12));
+        ConstellationsByLot x = Checks.made(y -> Checks.rowOfPoints(y, 12));
         x.parish(0, 0);
         Checks.wants(x, 0, 0, 11);
         checks.due("first and last POINT", x.line(0, 11, 0), 1);
@@ -267,7 +261,7 @@ public final class EdgesOfSkyTest {
     }
 
     private static void promise12DrawnByAnotherAlone() {
-        ConstellationsByLot x = made(SOME);
+        ConstellationsByLot x = Checks.made(SOME);
         x.wants(0, 3, true);
         checks.due("PARISH 1 has that LINE", x.line(0, 1, 3), 3);
     }
@@ -281,7 +275,7 @@ public final class EdgesOfSkyTest {
     }
 
     private static void promise12TheTenth() {
-        ConstellationsByLot x = made(EdgesOfSkyTest::tenLines);
+        ConstellationsByLot x = Checks.made(EdgesOfSkyTest::tenLines);
         x.drop(0, 0, 1);
         checks.due("the 10th", x.line(0, 0, 5), 10);
         checks.due("LINES", x.parishOf(0, 2), 10);
@@ -303,13 +297,13 @@ public final class EdgesOfSkyTest {
     }
 
     private static void promise12FullIsOfOneParish() {
-        ConstellationsByLot x = made(EdgesOfSkyTest::tenLines);
+        ConstellationsByLot x = Checks.made(EdgesOfSkyTest::tenLines);
         checks.due("another has room", x.line(1, 0, 1), 1);
     }
 
     /** 60 LINES in all: six PARISHES with ten each. */
     private static void promise12AllParishesFull() {
-        ConstellationsByLot x = made(y -> Checks.rowOfPoints(y, 5));
+        ConstellationsByLot x = Checks.made(y -> Checks.rowOfPoints(y, 5));
         for (int p = 0; p < 6; p++) {
             x.parish(0, 0);
             Checks.wants(x, p, 0, 1, 2, 3, 4);
@@ -325,7 +319,7 @@ public final class EdgesOfSkyTest {
         int[][] gone = {{0, 1}, {1, 2}, {2, 0}};
         int[][] left = {{102, 200}, {1, 200}, {1, 102}};
         for (int i = 0; i < 3; i++) {
-            ConstellationsByLot x = made(y -> Checks.rowOfPoints(y, 3));
+            ConstellationsByLot x = Checks.made(y -> Checks.rowOfPoints(y, 3));
             x.parish(0, 0);
             Checks.wants(x, 0, 0, 1, 2);
             Checks.lines(x, 0, 0, 1, 1, 2, 2, 0);
@@ -336,20 +330,20 @@ public final class EdgesOfSkyTest {
     }
 
     private static void promise13TheOnlyOne() {
-        ConstellationsByLot x = made(SOME);
+        ConstellationsByLot x = Checks.made(SOME);
         checks.due("the only LINE", x.drop(1, 3, 1), 0);
         checks.due("LINES", x.parishOf(1, 2), 0);
         checks.due("its POINTS are WANTED still", x.parishOf(1, 10), 14);
     }
 
     private static void promise13TheOtherWay() {
-        ConstellationsByLot x = made(SOME);
+        ConstellationsByLot x = Checks.made(SOME);
         checks.due("the other way", x.drop(0, 0, 2), 1);
         checks.due("the LINE left", x.lineOf(0, 0), 1);
     }
 
     private static void promise13OfTen() {
-        ConstellationsByLot x = made(EdgesOfSkyTest::tenLines);
+        ConstellationsByLot x = Checks.made(EdgesOfSkyTest::tenLines);
         checks.due("the last of ten", x.drop(0, 3, 4), 9);
         checks.due("the first of nine", x.drop(0, 0, 1), 8);
         checks.due("the first left", x.lineOf(0, 0), 2);

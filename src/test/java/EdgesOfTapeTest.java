@@ -17,12 +17,6 @@ public final class EdgesOfTapeTest {
         checks.finish();
     }
 
-    private static ConstellationsByLot made(Consumer<ConstellationsByLot> start) {
-        ConstellationsByLot x = new ConstellationsByLot();
-        start.accept(x);
-        return x;
-    }
-
     /** Three POINTS; PARISH 0 WANTS 0 and 1 and has no LINES, PARISH 1 WANTS all and has LINE 0 1. */
     private static void small(ConstellationsByLot x) {
         Checks.points(x, 0, 1, 1, 1, 2, 1);
@@ -35,7 +29,7 @@ public final class EdgesOfTapeTest {
     }
 
     private static void reads(Consumer<ConstellationsByLot> start, String text, int statements) {
-        ConstellationsByLot x = made(start);
+        ConstellationsByLot x = Checks.made(start);
         checks.due("'" + text + "'", Checks.read(x, text), statements);
         checks.due("'" + text + "': REFUSALS", x.status(12), 0);
         checks.due("'" + text + "': THE TAPE", x.status(6), 0);
@@ -76,7 +70,7 @@ public final class EdgesOfTapeTest {
     }
 
     private static void promise15The250th() {
-        ConstellationsByLot x = made(y -> Checks.feedAll(y, " ".repeat(249)));
+        ConstellationsByLot x = Checks.made(y -> Checks.feedAll(y, " ".repeat(249)));
         checks.due("the 250th", x.feed(32), 250);
         checks.due("size", x.status(6), 250);
     }
@@ -94,10 +88,10 @@ public final class EdgesOfTapeTest {
     }
 
     private static void promise15RoomAgain() {
-        ConstellationsByLot wiped = made(y -> Checks.feedAll(y, " ".repeat(250)));
+        ConstellationsByLot wiped = Checks.made(y -> Checks.feedAll(y, " ".repeat(250)));
         wiped.wipe();
         checks.due("behind wipe", wiped.feed(32), 1);
-        ConstellationsByLot read = made(y -> Checks.feedAll(y, " ".repeat(250)));
+        ConstellationsByLot read = Checks.made(y -> Checks.feedAll(y, " ".repeat(250)));
         read.sky();
         checks.due("behind sky", read.feed(32), 1);
     }
@@ -109,21 +103,21 @@ public final class EdgesOfTapeTest {
     }
 
     private static void promise16One() {
-        ConstellationsByLot x = made(y -> y.feed(32));
+        ConstellationsByLot x = Checks.made(y -> y.feed(32));
         checks.due("one byte", x.wipe(), 1);
         checks.due("then", x.status(6), 0);
         checks.due("again", x.wipe(), 0);
     }
 
     private static void promise16Full() {
-        ConstellationsByLot x = made(y -> Checks.feedAll(y, " ".repeat(250)));
+        ConstellationsByLot x = Checks.made(y -> Checks.feedAll(y, " ".repeat(250)));
         checks.due("full", x.wipe(), 250);
         checks.due("then", x.status(6), 0);
     }
 
     /** Nothing of what was on THE TAPE comes again. */
     private static void promise16WhatWasThere() {
-        ConstellationsByLot x = made(y -> Checks.feedAll(y, "cloud 7;cloud 8"));
+        ConstellationsByLot x = Checks.made(y -> Checks.feedAll(y, "cloud 7;cloud 8"));
         x.wipe();
         checks.due("only what came later", Checks.read(x, "cloud 1"), 1);
         checks.due("CLOUD", x.status(2), 1);
@@ -193,7 +187,7 @@ public final class EdgesOfTapeTest {
     }
 
     private static void promise17AFaultyOneMakesNoRoomLess() {
-        ConstellationsByLot x = made(y -> Checks.rowOfPoints(y, 11));
+        ConstellationsByLot x = Checks.made(y -> Checks.rowOfPoints(y, 11));
         Checks.read(x, "point 0 1;oh");
         checks.due("the 12th POINT", Checks.read(x, "point 0 1"), 1);
     }
@@ -383,7 +377,7 @@ public final class EdgesOfTapeTest {
         fault("point 0 ^0");
         fault("point 0 ^10");
         fault("point 0 ^00");
-        ConstellationsByLot x = made(y -> Checks.read(y, "point 99 9;point 0 1"));
+        ConstellationsByLot x = Checks.made(y -> Checks.read(y, "point 99 9;point 0 1"));
         checks.due("CELL", x.pointOf(0, 0), 99);
         checks.due("BRIGHT", x.pointOf(0, 1), 9);
         checks.due("CELL of the second", x.pointOf(1, 0), 0);
@@ -395,7 +389,7 @@ public final class EdgesOfTapeTest {
         reads("parish 5 9", 1);
         fault("parish ^6 0");
         fault("parish 0 ^10");
-        ConstellationsByLot x = made(y -> Checks.read(y, "parish 5 9;parish 0 0"));
+        ConstellationsByLot x = Checks.made(y -> Checks.read(y, "parish 5 9;parish 0 0"));
         checks.due("KIND", x.parishOf(0, 0), 5);
         checks.due("a", x.parishOf(0, 1), 9);
         checks.due("KIND of the second", x.parishOf(1, 0), 0);
@@ -407,7 +401,7 @@ public final class EdgesOfTapeTest {
         reads("cloud 12", 1);
         fault("cloud ^13");
         fault("cloud ^99");
-        checks.due("CLOUD", made(y -> Checks.read(y, "cloud 12")).status(2), 12);
+        checks.due("CLOUD", Checks.made(y -> Checks.read(y, "cloud 12")).status(2), 12);
     }
 
     private static void promise17WantsNumbers() {
@@ -427,7 +421,7 @@ public final class EdgesOfTapeTest {
     }
 
     private static void promise17FirstAndLastOfAll() {
-        ConstellationsByLot x = made(y -> Checks.rowOfPoints(y, 12));
+        ConstellationsByLot x = Checks.made(y -> Checks.rowOfPoints(y, 12));
         Checks.parishes(x, 0, 0, 0, 0, 0, 0);
         checks.due("PARISH 5", Checks.read(x, "wants 5 11;wants 5 0;line 5 11 0"), 3);
         checks.due("its LINE", x.lineOf(5, 0), 1100);
@@ -532,7 +526,7 @@ public final class EdgesOfTapeTest {
 
     /** A SKY has no STATEMENT to make room: what is FULL is so for all of it. */
     private static void promise17RoomMadeAhead() {
-        ConstellationsByLot x = made(y -> lines(y, 10));
+        ConstellationsByLot x = Checks.made(y -> lines(y, 10));
         checks.due("no room", Checks.read(x, "line 0 0 5"), -25);
         x.drop(0, 0, 1);
         checks.due("room for one", Checks.read(x, "line 0 0 5"), 1);
@@ -540,7 +534,7 @@ public final class EdgesOfTapeTest {
     }
 
     private static void promise17NothingElseIsReset() {
-        ConstellationsByLot x = made(Checks::some);
+        ConstellationsByLot x = Checks.made(Checks::some);
         x.wipe();
         for (int letter : FARTHEST) {
             x.feed(letter);

@@ -15,12 +15,6 @@ public final class EdgesOfTruthTest {
         checks.finish();
     }
 
-    private static ConstellationsByLot made(Consumer<ConstellationsByLot> start) {
-        ConstellationsByLot x = new ConstellationsByLot();
-        start.accept(x);
-        return x;
-    }
-
     // ---- DRAWS, by numbers that can't wrap around
 
     private static int seedBehind(int seed, int draws) {
@@ -64,16 +58,16 @@ public final class EdgesOfTruthTest {
     }
 
     private static void promise31OneNight() {
-        ConstellationsByLot x = made(y -> wanting(y, 2));
+        ConstellationsByLot x = Checks.made(y -> wanting(y, 2));
         x.nights(1);
         checks.due("two DRAWS", x.status(7), seedBehind(1, 2));
     }
 
     private static void promise31FortyNights() {
-        ConstellationsByLot x = made(y -> wanting(y, 12));
+        ConstellationsByLot x = Checks.made(y -> wanting(y, 12));
         x.nights(40);
         checks.due("eighty DRAWS", x.status(7), seedBehind(1, 80));
-        ConstellationsByLot y = made(z -> wanting(z, 12));
+        ConstellationsByLot y = Checks.made(z -> wanting(z, 12));
         int drawn = 0;
         for (int night = 0; night < 40; night++) {
             drawn = y.nights(1);
@@ -93,14 +87,14 @@ public final class EdgesOfTruthTest {
     private static void promise31FewerThanTwoPoints() {
         twins.changesNothing("none WANTED", x -> wanting(x, 0), x -> x.nights(40), 0);
         twins.changesNothing("one WANTED", x -> wanting(x, 1), x -> x.nights(40), 0);
-        ConstellationsByLot x = made(y -> wanting(y, 2));
+        ConstellationsByLot x = Checks.made(y -> wanting(y, 2));
         x.nights(40);
         checks.due("two WANTED: eighty DRAWS", x.status(7), seedBehind(1, 80));
     }
 
     /** One with too few POINTS takes no DRAW from the next. */
     private static void promise31TooFewBetweenOthers() {
-        ConstellationsByLot x = made(y -> wanting(y, 2));
+        ConstellationsByLot x = Checks.made(y -> wanting(y, 2));
         Checks.parishes(x, 0, 0, 0);
         Checks.wants(x, 2, 5);
         Checks.wants(x, 3, 4, 7);
@@ -114,7 +108,7 @@ public final class EdgesOfTruthTest {
 
     private static void promise31LikePoints() {
         int seed = seedFor(12, 5, 5);
-        ConstellationsByLot x = made(y -> wanting(y, 12));
+        ConstellationsByLot x = Checks.made(y -> wanting(y, 12));
         x.line(0, 5, 6);
         x.seed(seed);
         checks.due("no LINE", x.nights(1), 1);
@@ -122,19 +116,19 @@ public final class EdgesOfTruthTest {
     }
 
     private static void promise31FirstAndLastByNumber() {
-        ConstellationsByLot x = made(y -> wanting(y, 0));
+        ConstellationsByLot x = Checks.made(y -> wanting(y, 0));
         Checks.wants(x, 0, 3, 7, 10);
         x.seed(seedFor(3, 2, 0));
         checks.due("drawn", x.nights(1), 1);
         checks.due("the last and the first it WANTS", x.lineOf(0, 0), 1003);
-        ConstellationsByLot all = made(y -> wanting(y, 12));
+        ConstellationsByLot all = Checks.made(y -> wanting(y, 12));
         all.seed(seedFor(12, 0, 11));
         checks.due("of twelve: drawn", all.nights(1), 1);
         checks.due("of twelve: the first and the last", all.lineOf(0, 0), 11);
     }
 
     private static void promise31DrawnIsGone() {
-        ConstellationsByLot x = made(y -> wanting(y, 12));
+        ConstellationsByLot x = Checks.made(y -> wanting(y, 12));
         Checks.lines(x, 0, 1, 2, 8, 4, 3, 4);
         x.seed(seedFor(12, 8, 4));
         checks.due("gone", x.nights(1), 2);
@@ -144,14 +138,14 @@ public final class EdgesOfTruthTest {
     }
 
     private static void promise31DrawnTheOtherWayIsGone() {
-        ConstellationsByLot x = made(y -> wanting(y, 12));
+        ConstellationsByLot x = Checks.made(y -> wanting(y, 12));
         x.line(0, 8, 4);
         x.seed(seedFor(12, 4, 8));
         checks.due("gone", x.nights(1), 0);
     }
 
     private static void promise31TheTenthLine() {
-        ConstellationsByLot x = made(y -> wanting(y, 12));
+        ConstellationsByLot x = Checks.made(y -> wanting(y, 12));
         Checks.allLines(x, 0, 5);
         x.drop(0, 0, 1);
         x.seed(seedFor(12, 11, 5));
@@ -171,7 +165,7 @@ public final class EdgesOfTruthTest {
     }
 
     private static void promise31GoneThoughThereIsNoRoom() {
-        ConstellationsByLot x = made(y -> wanting(y, 12));
+        ConstellationsByLot x = Checks.made(y -> wanting(y, 12));
         Checks.allLines(x, 0, 5);
         x.seed(seedFor(12, 4, 3));
         checks.due("one of ten is gone", x.nights(1), 9);
@@ -179,7 +173,7 @@ public final class EdgesOfTruthTest {
 
     /** "how many are drawn in all then": those that were there ahead and others' count, too. */
     private static void promise31HowManyInAll() {
-        ConstellationsByLot x = made(y -> wanting(y, 12));
+        ConstellationsByLot x = Checks.made(y -> wanting(y, 12));
         x.parish(0, 0);
         Checks.wants(x, 1, 0);
         Checks.lines(x, 0, 0, 1, 1, 2);
@@ -188,7 +182,7 @@ public final class EdgesOfTruthTest {
     }
 
     private static void promise31ParishByParish() {
-        ConstellationsByLot x = made(y -> wanting(y, 12));
+        ConstellationsByLot x = Checks.made(y -> wanting(y, 12));
         x.parish(0, 0);
         for (int p = 0; p < 12; p++) {
             x.wants(1, p, true);
@@ -199,7 +193,7 @@ public final class EdgesOfTruthTest {
         for (int i = 0; i < 8; i++) {
             draws[i] = draw(seedBehind(77, i), 12);
         }
-        ConstellationsByLot y = made(z -> wanting(z, 12));
+        ConstellationsByLot y = Checks.made(z -> wanting(z, 12));
         y.parish(0, 0);
         for (int p = 0; p < 12; p++) {
             y.wants(1, p, true);
@@ -221,7 +215,7 @@ public final class EdgesOfTruthTest {
     private static void promise31TheSeedWrapsAround() {
         int[] seeds = {Integer.MAX_VALUE, Integer.MIN_VALUE, -1, 0, 1, 2};
         for (int seed : seeds) {
-            ConstellationsByLot x = made(y -> wanting(y, 12));
+            ConstellationsByLot x = Checks.made(y -> wanting(y, 12));
             x.seed(seed);
             x.nights(1);
             checks.due("from SEED " + seed, x.status(7), seedBehind(seed, 2));
@@ -241,7 +235,7 @@ public final class EdgesOfTruthTest {
                 || draw(seed, 7) == draw(seedBehind(seed, 1), 7)) {
             seed++;
         }
-        ConstellationsByLot x = made(y -> wanting(y, 7));
+        ConstellationsByLot x = Checks.made(y -> wanting(y, 7));
         x.seed(seed);
         x.nights(1);
         checks.due("LINE", x.lineOf(0, 0), 100 * draw(seed, 7) + draw(seedBehind(seed, 1), 7));
@@ -262,7 +256,7 @@ public final class EdgesOfTruthTest {
     }
 
     private static void promise32NoLinesAreGone() {
-        ConstellationsByLot x = made(y -> Checks.rowOfPoints(y, 1));
+        ConstellationsByLot x = Checks.made(y -> Checks.rowOfPoints(y, 1));
         Checks.parishes(x, 0, 0, 0);
         Checks.wants(x, 1, 0);
         Checks.wants(x, 2, 0);
@@ -272,7 +266,7 @@ public final class EdgesOfTruthTest {
 
     /** Of twelve POINTS that two WANT, five are given at a time. */
     private static void promise32OnlyThoseFive() {
-        ConstellationsByLot x = made(y -> wanting(y, 12));
+        ConstellationsByLot x = Checks.made(y -> wanting(y, 12));
         x.parish(0, 0);
         for (int p = 0; p < 12; p++) {
             x.wants(1, p, true);
@@ -289,7 +283,7 @@ public final class EdgesOfTruthTest {
 
     /** A LINE of which both POINTS are given away is one LINE. */
     private static void promise32BothEndsGivenAway() {
-        ConstellationsByLot x = made(y -> wanting(y, 2));
+        ConstellationsByLot x = Checks.made(y -> wanting(y, 2));
         x.parish(0, 0);
         Checks.wants(x, 1, 0, 1);
         x.line(0, 0, 1);
@@ -300,7 +294,7 @@ public final class EdgesOfTruthTest {
     }
 
     private static void promise32AllLinesOfTen() {
-        ConstellationsByLot x = made(y -> wanting(y, 5));
+        ConstellationsByLot x = Checks.made(y -> wanting(y, 5));
         Checks.parishes(x, 0, 0);
         Checks.wants(x, 1, 0, 1, 2, 3, 4);
         Checks.allLines(x, 0, 5);
@@ -415,7 +409,7 @@ public final class EdgesOfTruthTest {
     }
 
     private static void promise34NotTheTape() {
-        ConstellationsByLot x = made(SOME);
+        ConstellationsByLot x = Checks.made(SOME);
         x.image();
         x.wipe();
         Checks.feedAll(x, "cloud 1");
@@ -426,7 +420,7 @@ public final class EdgesOfTruthTest {
     }
 
     private static void promise34NotShelves() {
-        ConstellationsByLot x = made(SOME);
+        ConstellationsByLot x = Checks.made(SOME);
         x.image();
         x.show(0, NONE);
         x.row(3, 4, 2);
@@ -440,7 +434,7 @@ public final class EdgesOfTruthTest {
     }
 
     private static void promise34NotRefusals() {
-        ConstellationsByLot x = made(SOME);
+        ConstellationsByLot x = Checks.made(SOME);
         x.image();
         x.point(-1, 1);
         x.set(2, 0, 1);
@@ -461,7 +455,7 @@ public final class EdgesOfTruthTest {
     }
 
     private static void promise35AgainAndAgain() {
-        ConstellationsByLot x = made(SOME);
+        ConstellationsByLot x = Checks.made(SOME);
         x.image();
         for (int round = 0; round < 3; round++) {
             x.cloud(round);
@@ -478,7 +472,7 @@ public final class EdgesOfTruthTest {
 
     /** The image itself stays as it was, though what came back from it is changed. */
     private static void promise35TheImageIsApart() {
-        ConstellationsByLot x = made(SOME);
+        ConstellationsByLot x = Checks.made(SOME);
         x.image();
         x.back();
         x.drop(0, 0, 1);
@@ -491,7 +485,7 @@ public final class EdgesOfTruthTest {
     }
 
     private static void promise35ShelvesOfTheSameNumbers() {
-        ConstellationsByLot x = made(SOME);
+        ConstellationsByLot x = Checks.made(SOME);
         checks.due("back to one PARISH", x.back(), 1);
         checks.due("PARISH 0 stays", x.holds(2), 10);
         checks.due("PARISH 1 is NOTHING", x.holds(7), NONE);
@@ -520,7 +514,7 @@ public final class EdgesOfTruthTest {
 
     /** What says tells is the PARISH as it was kept. */
     private static void promise35AShelfSaysWhatWasKept() {
-        ConstellationsByLot x = made(SOME);
+        ConstellationsByLot x = Checks.made(SOME);
         x.image();
         int worth = x.says(2, 1);
         x.drop(0, 0, 1);
@@ -531,7 +525,7 @@ public final class EdgesOfTruthTest {
     }
 
     private static void promise35RoomAgain() {
-        ConstellationsByLot x = made(SOME);
+        ConstellationsByLot x = Checks.made(SOME);
         x.image();
         for (int i = 4; i < 12; i++) {
             x.point(i, 1);
@@ -566,7 +560,7 @@ public final class EdgesOfTruthTest {
 
     private static void promise36OfAFullSky() {
         int[] due = {12, 6, 3, 20, -1, 5, 250, 1, 8};
-        ConstellationsByLot x = made(EdgesOfTruthTest::fullSky);
+        ConstellationsByLot x = Checks.made(EdgesOfTruthTest::fullSky);
         Checks.feedAll(x, " ".repeat(250));
         for (int s = 0; s < 8; s++) {
             x.row(s, s % 5, 0);
@@ -582,7 +576,7 @@ public final class EdgesOfTruthTest {
     }
 
     private static void promise36SharedByTwoOrMore() {
-        ConstellationsByLot x = made(y -> wanting(y, 12));
+        ConstellationsByLot x = Checks.made(y -> wanting(y, 12));
         Checks.parishes(x, 0, 0, 0, 0, 0);
         checks.due("none", x.status(5), 0);
         x.wants(1, 11, true);
@@ -598,7 +592,7 @@ public final class EdgesOfTruthTest {
     /** Each REFUSAL has a count of its own, and a call that asks for one is no REFUSAL. */
     private static void promise36RefusalsApart() {
         for (int k = 0; k < 5; k++) {
-            ConstellationsByLot x = made(SOME);
+            ConstellationsByLot x = Checks.made(SOME);
             Checks.parishes(x, 0, 0, 0, 0);
             for (int times = 1; times <= 3; times++) {
                 switch (k) {

@@ -1,5 +1,7 @@
 import java.lang.reflect.Array;
 import java.lang.reflect.Field;
+import java.lang.reflect.InvocationTargetException;
+import java.lang.reflect.Method;
 import java.lang.reflect.Modifier;
 import java.nio.charset.StandardCharsets;
 import java.nio.file.Files;
@@ -7,14 +9,16 @@ import java.nio.file.Path;
 import java.util.ArrayDeque;
 import java.util.Arrays;
 import java.util.Collections;
+import java.util.Comparator;
 import java.util.Deque;
 import java.util.IdentityHashMap;
 import java.util.List;
+import java.util.Random;
 import java.util.Set;
 import java.util.regex.Matcher;
 import java.util.regex.Pattern;
 
-/** Rules of LANGUAGE.md, as far as the text of the source can show that one is broken. */
+/** Rules of LANGUAGE.md, as far as the source's text, the class's members or a long run can show that one is broken. */
 public final class RulesTest {
     private static final Path SOURCE = Path.of("src/main/java/ConstellationsByLot.java");
     private static final Checks checks = new Checks("RulesTest");
@@ -32,6 +36,7 @@ public final class RulesTest {
             sizes(inner);
         }
         room();
+        neverThrows();
         checks.finish();
     }
 
@@ -142,6 +147,31 @@ public final class RulesTest {
         x.image();
         x.back();
         checks.holds("rule 12: the calls keep to what was made with the object", held(x).equals(ahead));
+    }
+
+    /** Far more calls than 512 on one object: what they answer is free then, but they must end and not throw. */
+    private static void neverThrows() throws Exception {
+        Random random = new Random(7);
+        Method[] calls = Arrays.stream(ConstellationsByLot.class.getDeclaredMethods())
+                .filter(method -> Modifier.isPublic(method.getModifiers()))
+                .sorted(Comparator.comparing(Method::getName)).toArray(Method[]::new);
+        ConstellationsByLot x = new ConstellationsByLot();
+        for (int i = 0; i < 200000; i++) {
+            Method call = calls[random.nextInt(calls.length)];
+            Object[] arguments = new Object[call.getParameterCount()];
+            for (int k = 0; k < arguments.length; k++) {
+                Class<?> type = call.getParameterTypes()[k];
+                int number = random.nextInt(9) == 0 ? random.nextInt() : random.nextInt(14) - 1;
+                arguments[k] = type == boolean.class ? (Object) (number % 5 != 0)
+                        : type == long.class ? (Object) (long) number : (Object) number;
+            }
+            try {
+                call.invoke(x, arguments);
+            } catch (InvocationTargetException thrown) {
+                checks.holds("rule 7: " + call.getName() + Arrays.toString(arguments) + " threw " + thrown.getCause(), false);
+            }
+        }
+        checks.holds("rule 7: all calls came to an end", true);
     }
 
     private static Set<Object> held(Object from) throws Exception {

@@ -338,6 +338,12 @@ public final class SaidByPromisesTest {
         changes("the 3rd", x -> x.parish(5, 8), 2, "PARISHES=3", "PARISH 2 KIND=5", "PARISH 2 a=8", "PARISH 2 LINES=0",
                 "PARISH 2 USED=0", "PARISH 2 LIGHT=0", "PARISH 2 PIECES=0", "PARISH 2 ODD=0", "PARISH 2 STROKES=0",
                 "PARISH 2 CLOSED=0", "PARISH 2 WORTH=0", "PARISH 2 WANTS=0", "PARISH 2 LENGTHS=0");
+        Told.changes(checks, "a new one in the place of one that is no more", x -> {
+            Checks.some(x);
+            x.back();
+        }, x -> x.parish(2, 1), 1, "PARISHES=2", "PARISH 1 KIND=2", "PARISH 1 a=1", "PARISH 1 LINES=0",
+                "PARISH 1 USED=0", "PARISH 1 LIGHT=0", "PARISH 1 PIECES=0", "PARISH 1 ODD=0", "PARISH 1 STROKES=0",
+                "PARISH 1 CLOSED=0", "PARISH 1 WORTH=0", "PARISH 1 WANTS=0", "PARISH 1 LENGTHS=0");
         for (int kind : Checks.outside(0, 5)) {
             bad("KIND " + kind, x -> x.parish(kind, 0));
         }
@@ -455,6 +461,11 @@ public final class SaidByPromisesTest {
     private static void says16() {
         changes("seven", ConstellationsByLot::wipe, 7, "TAPE=0", "READ=-20", "READ CLOUD=5");
         Told.changes(checks, "none", x -> { }, ConstellationsByLot::wipe, 0);
+        Told.changes(checks, "a longer one does not come again", x -> {
+            Checks.feedAll(x, "cloud 12;cloud 0");
+            x.wipe();
+            Checks.feedAll(x, "cloud 1");
+        }, ConstellationsByLot::sky, 1, "TAPE=0", "CLOUD=1", "READ=-20");
     }
 
     @Says(of = "Promise 17", value = {"THE TAPE is a SKY: how many STATEMENTS;", "THE TAPE is empty then, either way."})
@@ -472,6 +483,8 @@ public final class SaidByPromisesTest {
         changes("behind a STATEMENT that would do", x -> Checks.read(x, ";point 1 1; oh"), -39, "TAPE=0", "BAD=1",
                 "READ=-20", "READ CLOUD=5");
         Told.changes(checks, "an empty one", x -> { }, ConstellationsByLot::sky, -20, "BAD=1");
+        Told.changes(checks, "one without a FAULT behind it", x -> Checks.read(x, "oh"),
+                x -> Checks.read(x, "cloud 7"), 1, "CLOUD=7", "READ CLOUD=7");
     }
 
     // ---- 18 to 21
@@ -533,6 +546,12 @@ public final class SaidByPromisesTest {
             Checks.lines(x, 1, 2, 3);
             x.drop(0, 0, 2);
         }, ConstellationsByLot::crowd, 3);
+        Told.changes(checks, "1 with two, 2 and 3 with more than 0", x -> {
+            Checks.rowOfPoints(x, 4);
+            Checks.parishes(x, 0);
+            Checks.wants(x, 0, 1, 2, 3);
+            Checks.lines(x, 0, 1, 2, 1, 3);
+        }, ConstellationsByLot::crowd, 1);
         Told.changes(checks, "no LINES", x -> Checks.rowOfPoints(x, 3), ConstellationsByLot::crowd, 0);
         Told.changes(checks, "no POINTS", x -> Checks.parishes(x, 0), ConstellationsByLot::crowd, STUCK, "STUCK=1");
     }
@@ -594,6 +613,13 @@ public final class SaidByPromisesTest {
         }
     }
 
+    private static void sevenShared(ConstellationsByLot x) {
+        Checks.rowOfPoints(x, 7);
+        Checks.parishes(x, 0, 0);
+        Checks.wants(x, 0, 0, 1, 2, 3, 4, 5, 6);
+        Checks.wants(x, 1, 0, 1, 2, 3, 4, 5, 6);
+    }
+
     /** POINTS 1 and 2 are shared; to PARISH 1, whose LINE goes down 9, both are worth nothing. */
     @Says(of = "Promise 24", value = {"SHARE: how much (i NONE), to whom the i-th.",
             "BAD: also no such i; STUCK: no PARISHES (i NONE alone)."})
@@ -616,6 +642,8 @@ public final class SaidByPromisesTest {
         for (int i : Checks.outside(-1, 1)) {
             bad("i " + i, x -> x.share(i));
         }
+        Told.changes(checks, "the 5th of seven", SaidByPromisesTest::sevenShared, x -> x.share(4), 0);
+        badAhead("there is no 6th, though seven are shared", SaidByPromisesTest::sevenShared, x -> x.share(5));
         Consumer<ConstellationsByLot> none = x -> Checks.rowOfPoints(x, 3);
         Told.changes(checks, "no PARISHES", none, x -> x.share(NONE), STUCK, "STUCK=1");
         badAhead("no PARISHES, i 0", none, x -> x.share(0));
@@ -626,6 +654,13 @@ public final class SaidByPromisesTest {
         changes("two", ConstellationsByLot::colours, 2);
         Told.changes(checks, "none", x -> Checks.rowOfPoints(x, 3), ConstellationsByLot::colours, 0);
         Told.changes(checks, "one", x -> Checks.parishes(x, 0, 0, 0), ConstellationsByLot::colours, 1);
+        Told.changes(checks, "one, when they share no more", x -> {
+            Checks.some(x);
+            x.colours();
+            x.way(0, 1);
+            x.wants(0, 1, false);
+            x.wants(1, 2, false);
+        }, ConstellationsByLot::colours, 1);
     }
 
     @Says(of = "Promise 26", value = {"WAY; NONE.", "BAD.", "(NONE isn't refused; to itself 0.)"})
@@ -700,6 +735,17 @@ public final class SaidByPromisesTest {
         bad("no elements for a pair", x -> x.whose(4, 1, 0));
         stuck("no such POINT: 7", x -> x.whose(0, 1, 0));
         stuck("like POINTS", x -> x.whose(1, 1, 0));
+        int[] none = {-1, 4};
+        for (int point : none) {
+            for (int place = 0; place < 2; place++) {
+                int at = place;
+                Told.changes(checks, "no POINT " + point + " in place " + place, x -> {
+                    Checks.some(x);
+                    x.row(5, 2, 2);
+                    x.set(5, at, point);
+                }, x -> x.whose(5, 1, 0), STUCK, "STUCK=1");
+            }
+        }
         Told.changes(checks, "no PARISHES", x -> x.row(0, 2, 2), x -> x.whose(0, 0, 0), STUCK, "STUCK=1");
     }
 
@@ -736,6 +782,17 @@ public final class SaidByPromisesTest {
         }
     }
 
+    /** Six PARISHES with a LINE of their own each; PARISH 0 has two more, to POINT 10 of PARISH 5's only one. */
+    private static void oneLineEach(ConstellationsByLot x) {
+        Checks.rowOfPoints(x, 12);
+        Checks.parishes(x, 0, 0, 0, 0, 0, 0);
+        x.wants(0, 10, true);
+        for (int p = 0; p < 6; p++) {
+            Checks.wants(x, p, 2 * p, 2 * p + 1);
+            Checks.lines(x, p, 0, 10, 2 * p, 2 * p + 1, 1, 10);
+        }
+    }
+
     @Says(of = "Promise 32", value = {"SHARE in truth: POINTS are WANTED only by whom they are given to (of those 5), LINES "
             + "gone as told: how many LINES are gone.", "STUCK: no PARISHES."})
     private static void says32() {
@@ -743,13 +800,14 @@ public final class SaidByPromisesTest {
                 "LINES=2", "POINT 1 MEET=1", "POINT 3 MEET=0", "PARISH 1 WANTS=8", "PARISH 1 LINES=0",
                 "PARISH 1 LINE 0=gone", "PARISH 1 USED=0", "PARISH 1 LIGHT=0", "PARISH 1 PIECES=0", "PARISH 1 ODD=0",
                 "PARISH 1 STROKES=0", "PARISH 1 LENGTHS=0");
-        Told.changes(checks, "of those 5", x -> {
-            Checks.rowOfPoints(x, 7);
-            Checks.parishes(x, 0, 0);
-            Checks.wants(x, 0, 0, 1, 2, 3, 4, 5, 6);
-            Checks.wants(x, 1, 0, 1, 2, 3, 4, 5, 6);
-        }, ConstellationsByLot::give, 0, "SHARED=2", "PARISH 1 WANTS=96", "POINT 0 WANTED=1", "POINT 1 WANTED=1",
-                "POINT 2 WANTED=1", "POINT 3 WANTED=1", "POINT 4 WANTED=1");
+        Told.changes(checks, "of those 5", SaidByPromisesTest::sevenShared, ConstellationsByLot::give, 0, "SHARED=2",
+                "PARISH 1 WANTS=96", "POINT 0 WANTED=1", "POINT 1 WANTED=1", "POINT 2 WANTED=1", "POINT 3 WANTED=1",
+                "POINT 4 WANTED=1");
+        Told.changes(checks, "POINT 10 to PARISH 5", SaidByPromisesTest::oneLineEach, ConstellationsByLot::give, 2,
+                "SHARED=0", "LINES=6", "WORTH=18", "POINT 0 MEET=1", "POINT 1 MEET=1", "POINT 10 MEET=1",
+                "POINT 10 WANTED=32", "PARISH 0 WANTS=3", "PARISH 0 LINES=1", "PARISH 0 LINE 0=1", "PARISH 0 LINE 1=gone",
+                "PARISH 0 LINE 2=gone", "PARISH 0 USED=3", "PARISH 0 LIGHT=2", "PARISH 0 ODD=3", "PARISH 0 CLOSED=0",
+                "PARISH 0 WORTH=3", "PARISH 0 LENGTHS=1");
         Told.changes(checks, "no PARISHES", x -> Checks.rowOfPoints(x, 2), ConstellationsByLot::give, STUCK, "STUCK=1");
     }
 
@@ -796,6 +854,20 @@ public final class SaidByPromisesTest {
                 "PARISH 1 LINES=gone", "PARISH 1 USED=gone", "PARISH 1 LIGHT=gone", "PARISH 1 PIECES=gone",
                 "PARISH 1 ODD=gone", "PARISH 1 STROKES=gone", "PARISH 1 CLOSED=gone", "PARISH 1 WORTH=gone",
                 "PARISH 1 WANTS=gone", "PARISH 1 LENGTHS=gone", "PARISH 1 LINE 0=gone");
+        Told.changes(checks, "in every SHELF", x -> {
+            Checks.some(x);
+            for (int shelf = 0; shelf < 8; shelf++) {
+                x.show(shelf, shelf % 3 == 0 ? 1 : 0);
+            }
+            x.image();
+            x.parish(5, 5);
+            x.show(0, 2);
+            x.show(4, 2);
+            x.show(7, 2);
+        }, ConstellationsByLot::back, 1, "SHELF 0=-1", "SHELF 4=-1", "SHELF 7=-1", "SHELVES=5", "PARISHES=2",
+                "PARISH 2 KIND=gone", "PARISH 2 a=gone", "PARISH 2 LINES=gone", "PARISH 2 USED=gone",
+                "PARISH 2 LIGHT=gone", "PARISH 2 PIECES=gone", "PARISH 2 ODD=gone", "PARISH 2 STROKES=gone",
+                "PARISH 2 CLOSED=gone", "PARISH 2 WORTH=gone", "PARISH 2 WANTS=gone", "PARISH 2 LENGTHS=gone");
         Told.changes(checks, "twice is as once", x -> {
             Checks.some(x);
             x.back();

@@ -84,6 +84,7 @@ public final class SaidOfFiguresTest {
         checks.due("joined by a third", of(PIECES, 0, 1, 2, 3, 1, 3), 1);
         checks.due("six", of(PIECES, 0, 1, 2, 3, 4, 5, 6, 7, 8, 9, 10, 11), 6);
         checks.due("a ring and a LINE", of(PIECES, 3, 5, 5, 9, 9, 3, 0, 11), 2);
+        checks.due("a star, though it takes two STROKES", of(PIECES, 0, 1, 0, 2, 0, 3), 1);
         checks.due("a chain told in no order", of(PIECES, 9, 10, 0, 1, 5, 6, 2, 3, 8, 9, 1, 2, 6, 7, 4, 5, 3, 4, 7, 8), 1);
         ConstellationsByLot x = new ConstellationsByLot();
         Checks.points(x, 5, 1, 6, 1, 5, 1, 6, 1);
@@ -191,6 +192,9 @@ public final class SaidOfFiguresTest {
         Checks.wants(x, 0, 0, 1, 2, 3, 4, 5, 6, 7, 8, 9, 10, 11);
         Checks.lines(x, 0, 0, 1, 2, 3, 4, 5, 6, 7, 8, 9, 10, 11);
         checks.due("six STROKES", x.parishOf(0, WORTH), 12 + 6 - 12);
+        Checks.lines(x, 0, 0, 2, 0, 4);
+        checks.due("a star, and three LINES apart", x.parishOf(0, STROKES), 2 + 3);
+        checks.due("two STROKES of one of four PIECES", x.parishOf(0, WORTH), 12 + 8 - 10);
     }
 
     @Says(of = FIGURES, value = "BARE: what a PLAIN one has, less all LENGTHS together (0 at least).")

@@ -1,16 +1,14 @@
-import java.math.BigInteger;
 import java.util.ArrayList;
 import java.util.Collections;
 import java.util.HashSet;
 import java.util.List;
-import java.util.Random;
 import java.util.Set;
 import java.util.function.Consumer;
 import java.util.function.ToLongFunction;
 
 /**
- * Each sentence of the document's part WHAT COMES OF IT, and a test that fails if it does not hold. What has
- * many cases is worked out again from what other calls tell of the same sky, in the plainest way.
+ * Each sentence of the document's part WHAT COMES OF IT, up to WAY, and a test that fails if it does not hold. What
+ * has many cases is worked out again from what other calls tell of the same sky, in the plainest way.
  */
 public final class SaidOfOutcomesTest {
     private static final String OUTCOMES = "WHAT COMES OF IT";
@@ -27,31 +25,6 @@ public final class SaidOfOutcomesTest {
     public static void main(String[] args) throws Exception {
         Checks.runAll(SaidOfOutcomesTest.class, "says");
         checks.finish();
-    }
-
-    private static ConstellationsByLot made(Consumer<ConstellationsByLot> start) {
-        ConstellationsByLot x = new ConstellationsByLot();
-        start.accept(x);
-        return x;
-    }
-
-    /** A sky by chance: so many POINTS and PARISHES, each wanting about so many of ten, and some NIGHTS. */
-    private static Consumer<ConstellationsByLot> byChance(int seed, int points, int parishes, int ofTen) {
-        return x -> {
-            Random random = new Random(seed);
-            int cells = Checks.oneOf(random, 4, 20, 100);
-            for (int p = 0; p < points; p++) {
-                x.point(random.nextInt(cells), 1 + random.nextInt(9));
-            }
-            for (int p = 0; p < parishes; p++) {
-                x.parish(random.nextInt(6), random.nextInt(10));
-                for (int q = 0; q < points; q++) {
-                    x.wants(p, q, random.nextInt(10) < ofTen);
-                }
-            }
-            x.seed(seed);
-            x.nights(1 + random.nextInt(12));
-        };
     }
 
     @Says(of = OUTCOMES, value = "(nothing is changed)")
@@ -80,10 +53,10 @@ public final class SaidOfOutcomesTest {
         asked.add(x -> x.whose(5, 2, 1));
         Consumer<ConstellationsByLot> start = x -> {
             Checks.some(x);
-            tell(x, 5, 0, 1, 2, 3);
+            Checks.tell(x, 5, 0, 1, 2, 3);
         };
         for (int i = 0; i < asked.size(); i++) {
-            long answer = asked.get(i).applyAsLong(made(start));
+            long answer = asked.get(i).applyAsLong(Checks.made(start));
             checks.holds("it isn't refused: " + i, answer >= NONE);
             Told.changes(checks, "asking " + i, start, asked.get(i), answer);
         }
@@ -136,6 +109,12 @@ public final class SaidOfOutcomesTest {
         x.wants(0, 4, true);
         x.wants(1, 4, true);
         checks.due("USED POINTS alone", x.shift(0, 1), 5253);
+        ConstellationsByLot fewer = paths(cells(11, 12, 23), cells(34, 35, 46));
+        fewer.drop(1, 4, 5);
+        checks.due("a LINE that is gone there", fewer.shift(0, 1), NONE);
+        checks.due("a LINE that is gone here", fewer.shift(1, 0), NONE);
+        fewer.drop(0, 1, 2);
+        checks.due("gone on both sides", fewer.shift(0, 1), 5253);
     }
 
     @Says(of = OUTCOMES, value = "100 times ROWS and 50, and COLUMNS and 50 (so always above 0);")
@@ -162,8 +141,8 @@ public final class SaidOfOutcomesTest {
 
     /** The fewest LENGTHS by trying: the lightest LINES first, each that joins two parts. */
     private static int joined(Consumer<ConstellationsByLot> start, int parish) {
-        ConstellationsByLot x = made(start);
-        List<Integer> wanted = bits(x.parishOf(parish, WANTS));
+        ConstellationsByLot x = Checks.made(start);
+        List<Integer> wanted = Checks.bits(x.parishOf(parish, WANTS));
         List<int[]> lines = new ArrayList<>();
         for (int p : wanted) {
             for (int q : wanted) {
@@ -194,16 +173,6 @@ public final class SaidOfOutcomesTest {
         return sum;
     }
 
-    private static List<Integer> bits(int set) {
-        List<Integer> all = new ArrayList<>();
-        for (int i = 0; i < 32; i++) {
-            if ((set >> i & 1) != 0) {
-                all.add(i);
-            }
-        }
-        return all;
-    }
-
     @Says(of = OUTCOMES, value = "JOINED: the fewest LENGTHS together of LINES among all POINTS one WANTS (drawn or not) "
             + "by which all of them would be of one part (0: fewer than two).")
     private static void saysJoined() {
@@ -222,8 +191,8 @@ public final class SaidOfOutcomesTest {
         Checks.wants(x, 0, 4);
         checks.due("no LINE is for nothing", x.better(0, JOINED), 8);
         for (int seed = 0; seed < 60; seed++) {
-            Consumer<ConstellationsByLot> start = byChance(seed, seed % 13, 1, 3 + seed % 8);
-            checks.due("sky " + seed, made(start).better(0, JOINED), joined(start, 0));
+            Consumer<ConstellationsByLot> start = Checks.skyByChance(seed, seed % 13, 1, 3 + seed % 8);
+            checks.due("sky " + seed, Checks.made(start).better(0, JOINED), joined(start, 0));
         }
     }
 
@@ -233,7 +202,7 @@ public final class SaidOfOutcomesTest {
         int most = -1;
         for (int p = 0; p < 12; p++) {
             for (int q = p + 1; q < 12; q++) {
-                ConstellationsByLot x = made(start);
+                ConstellationsByLot x = Checks.made(start);
                 if (x.line(parish, p, q) > 0 && x.parishOf(parish, WORTH) > most) {
                     most = x.parishOf(parish, WORTH);
                     best = 100 * p + q;
@@ -256,8 +225,8 @@ public final class SaidOfOutcomesTest {
         x.wants(0, 3, false);
         checks.due("among those it WANTS", x.better(0, NEW), 1);
         for (int seed = 0; seed < 48; seed++) {
-            Consumer<ConstellationsByLot> start = byChance(seed, 2 + seed % 7, 1, 8);
-            checks.due("sky " + seed, made(start).better(0, NEW), best(start, 0));
+            Consumer<ConstellationsByLot> start = Checks.skyByChance(seed, 2 + seed % 7, 1, 8);
+            checks.due("sky " + seed, Checks.made(start).better(0, NEW), best(start, 0));
         }
     }
 
@@ -288,8 +257,8 @@ public final class SaidOfOutcomesTest {
     private static int worst(Consumer<ConstellationsByLot> start, int parish) {
         int worst = NONE;
         int most = -1;
-        for (int i = 0; i < made(start).parishOf(parish, LINES); i++) {
-            ConstellationsByLot x = made(start);
+        for (int i = 0; i < Checks.made(start).parishOf(parish, LINES); i++) {
+            ConstellationsByLot x = Checks.made(start);
             int line = x.lineOf(parish, i);
             x.drop(parish, line / 100, line % 100);
             if (x.parishOf(parish, WORTH) > most) {
@@ -315,8 +284,8 @@ public final class SaidOfOutcomesTest {
         x.line(0, 0, 2);
         checks.due("drawn again, it is the last", x.better(0, WORST), 2);
         for (int seed = 0; seed < 48; seed++) {
-            Consumer<ConstellationsByLot> start = byChance(seed, 2 + seed % 11, 1, 8);
-            checks.due("sky " + seed, made(start).better(0, WORST), worst(start, 0));
+            Consumer<ConstellationsByLot> start = Checks.skyByChance(seed, 2 + seed % 11, 1, 8);
+            checks.due("sky " + seed, Checks.made(start).better(0, WORST), worst(start, 0));
         }
     }
 
@@ -324,13 +293,13 @@ public final class SaidOfOutcomesTest {
 
     /** Every row of PARISHES for the first five shared POINTS is tried on an object of its own. */
     private static int[] shareByTrying(Consumer<ConstellationsByLot> start) {
-        ConstellationsByLot ahead = made(start);
+        ConstellationsByLot ahead = Checks.made(start);
         List<Integer> points = new ArrayList<>();
         List<List<Integer>> wanters = new ArrayList<>();
         for (int p = 0; p < ahead.status(0) && points.size() < 5; p++) {
             if (Integer.bitCount(ahead.pointOf(p, 2)) >= 2) {
                 points.add(p);
-                wanters.add(bits(ahead.pointOf(p, 2)));
+                wanters.add(Checks.bits(ahead.pointOf(p, 2)));
             }
         }
         int[] best = new int[points.size() + 1];
@@ -349,7 +318,7 @@ public final class SaidOfOutcomesTest {
             }
             return;
         }
-        ConstellationsByLot x = made(start);
+        ConstellationsByLot x = Checks.made(start);
         for (int i = 0; i < row.size(); i++) {
             for (int other : wanters.get(i)) {
                 if (other != row.get(i)) {
@@ -375,13 +344,35 @@ public final class SaidOfOutcomesTest {
             + "greatest, of several the first row by PARISHES: how much; to whom the i-th such POINT is given.")
     private static void saysShare() {
         for (int seed = 0; seed < 90; seed++) {
-            Consumer<ConstellationsByLot> start = byChance(seed, 3 + seed % 10, 1 + seed % 4, 3 + seed % 6);
+            Consumer<ConstellationsByLot> start = Checks.skyByChance(seed, 3 + seed % 10, 1 + seed % 4, 3 + seed % 6);
             int[] due = shareByTrying(start);
-            ConstellationsByLot x = made(start);
+            ConstellationsByLot x = Checks.made(start);
             checks.due("sky " + seed + ": how much", x.share(NONE), due[0]);
             for (int i = 0; i + 1 < due.length; i++) {
                 checks.due("sky " + seed + ": to whom " + i, x.share(i), due[i + 1]);
+                checks.due("sky " + seed + ": to whom, asked first " + i, Checks.made(start).share(i), due[i + 1]);
             }
+            x.give();
+            Consumer<ConstellationsByLot> given = start.andThen(ConstellationsByLot::give);
+            checks.due("sky " + seed + ": how much behind give", x.share(NONE), shareByTrying(given)[0]);
+        }
+    }
+
+    /** What was told of one sky has no part in what is told of the next. */
+    @Says(of = OUTCOMES, value = {})
+    private static void saysShareAgain() {
+        ConstellationsByLot x = new ConstellationsByLot();
+        Checks.rowOfPoints(x, 3);
+        Checks.parishes(x, 0, 0, 0);
+        Checks.wants(x, 0, 0, 1, 2);
+        Checks.wants(x, 1, 0, 1, 2);
+        checks.due("to the first", x.share(2), 0);
+        Checks.wants(x, 2, 0, 1, 2);
+        for (int p = 0; p < 3; p++) {
+            x.wants(0, p, false);
+        }
+        for (int i = 0; i < 3; i++) {
+            checks.due("to the first who WANTS it now: " + i, x.share(i), 1);
         }
     }
 
@@ -402,7 +393,7 @@ public final class SaidOfOutcomesTest {
             x.nights(6);
         };
         int[] due = shareByTrying(start);
-        ConstellationsByLot x = made(start);
+        ConstellationsByLot x = Checks.made(start);
         checks.due("how much", x.share(NONE), due[0]);
         for (int i = 0; i < 5; i++) {
             checks.due("to whom " + i, x.share(i), due[i + 1]);
@@ -415,8 +406,8 @@ public final class SaidOfOutcomesTest {
         int count = x.status(1);
         boolean[][] bound = new boolean[count][count];
         for (int point = 0; point < x.status(0); point++) {
-            for (int p : bits(x.pointOf(point, 2))) {
-                for (int q : bits(x.pointOf(point, 2))) {
+            for (int p : Checks.bits(x.pointOf(point, 2))) {
+                for (int q : Checks.bits(x.pointOf(point, 2))) {
                     bound[p][q] = true;
                 }
             }
@@ -445,7 +436,7 @@ public final class SaidOfOutcomesTest {
     private static void saysColours() {
         Set<Integer> told = new HashSet<>();
         for (int seed = 0; seed < 300; seed++) {
-            ConstellationsByLot x = made(byChance(seed, seed % 13, seed % 7, 1 + seed % 5));
+            ConstellationsByLot x = Checks.made(Checks.skyByChance(seed, seed % 13, seed % 7, 1 + seed % 5));
             boolean[][] bound = bound(x);
             int fewest = 0;
             while (!canColour(bound, new int[6], 0, fewest)) {
@@ -461,7 +452,7 @@ public final class SaidOfOutcomesTest {
     private static void saysWay() {
         Set<Integer> told = new HashSet<>();
         for (int seed = 0; seed < 200; seed++) {
-            ConstellationsByLot x = made(byChance(seed, seed % 13, seed % 7, 1 + seed % 4));
+            ConstellationsByLot x = Checks.made(Checks.skyByChance(seed, seed % 13, seed % 7, 1 + seed % 4));
             boolean[][] bound = bound(x);
             for (int from = 0; from < bound.length; from++) {
                 for (int to = 0; to < bound.length; to++) {
@@ -501,338 +492,5 @@ public final class SaidOfOutcomesTest {
             }
         }
         return fewest;
-    }
-
-    // ---- LAWS
-
-    /**
-     * Six PARISHES for six LAWS. WORTH, LIGHT, LINES, greatest LENGTH, STROKES and POINTS USED are, of 0: 30, 27, 3,
-     * 2, 1, 3; 1: 10, 5, 5, 2, 1, 4; 2: 6, 4, 2, 18, 2, 4; 3: 5, 3, 2, 3, 1, 3; 4: 9, 6, 3, 11, 3, 6; and of 5, a GRAND
-     * one: 66, 4, 2, 9, 2, 4.
-     */
-    private static ConstellationsByLot judged() {
-        ConstellationsByLot x = new ConstellationsByLot();
-        Checks.points(x, 0, 9, 1, 9, 2, 9, 3, 2, 4, 1, 5, 1, 13, 1, 90, 1, 99, 1, 9, 1, 19, 1, 10, 1);
-        Checks.parishes(x, 0, 0, 0, 0, 0, 3);
-        for (int p = 0; p < 6; p++) {
-            Checks.wants(x, p, 0, 1, 2, 3, 4, 5, 6, 7, 8, 9, 10, 11);
-        }
-        Checks.lines(x, 0, 0, 1, 1, 2, 2, 0);
-        Checks.lines(x, 1, 3, 4, 3, 5, 3, 6, 4, 5, 4, 6);
-        Checks.lines(x, 2, 7, 9, 4, 5);
-        Checks.lines(x, 3, 4, 5, 5, 6);
-        Checks.lines(x, 4, 4, 5, 6, 7, 8, 10);
-        Checks.lines(x, 5, 10, 11, 4, 5);
-        return x;
-    }
-
-    @Says(of = OUTCOMES, value = "LAWS of a judge: 0 most WORTH, 1 most LIGHT, 2 most LINES, 3 the greatest LENGTH, "
-            + "4 fewest STROKES (no LINES: never picked), 5 most POINTS USED; of several the first PARISH.")
-    private static void saysLaws() {
-        ConstellationsByLot x = judged();
-        int[] picked = {5, 0, 1, 2, 0, 4};
-        for (int law = 0; law < 6; law++) {
-            checks.due("LAW " + law, x.pick(law), picked[law]);
-        }
-        x.line(0, 3, 4);
-        x.line(0, 5, 6);
-        checks.due("0 in three STROKES: the next", x.pick(4), 1);
-        for (int p = 0; p < 3; p++) {
-            for (int q = 0; q < 12; q++) {
-                x.wants(p, q, false);
-            }
-        }
-        checks.due("no LINES: never picked", x.pick(4), 3);
-        checks.due("though they are fewest by others", x.pick(2), 4);
-        for (int seed = 0; seed < 120; seed++) {
-            byTold(made(byChance(seed, 2 + seed % 11, 2 + seed % 5, 8)), "sky " + seed);
-        }
-    }
-
-    /** Each LAW by what parishOf tells. */
-    private static void byTold(ConstellationsByLot x, String name) {
-        for (int law = 0; law < 6; law++) {
-            int picked = NONE;
-            for (int p = 0; p < x.status(1); p++) {
-                boolean may = law != 4 || x.parishOf(p, LINES) > 0;
-                if (may && (picked == NONE || merit(x, p, law) > merit(x, picked, law))) {
-                    picked = p;
-                }
-            }
-            checks.due(name + ": LAW " + law, x.pick(law), picked);
-        }
-    }
-
-    private static int merit(ConstellationsByLot x, int parish, int law) {
-        switch (law) {
-            case 0: return x.parishOf(parish, WORTH);
-            case 1: return x.parishOf(parish, 4);
-            case 2: return x.parishOf(parish, LINES);
-            case 3: return greatestLength(x, parish);
-            case 4: return -x.parishOf(parish, 7);
-            default: return Integer.bitCount(x.parishOf(parish, USED));
-        }
-    }
-
-    private static int greatestLength(ConstellationsByLot x, int parish) {
-        int greatest = 0;
-        for (int i = 0; i < x.parishOf(parish, LINES); i++) {
-            int here = x.pointOf(x.lineOf(parish, i) / 100, 0);
-            int there = x.pointOf(x.lineOf(parish, i) % 100, 0);
-            greatest = Math.max(greatest, Math.abs(here / 10 - there / 10) + Math.abs(here % 10 - there % 10));
-        }
-        return greatest;
-    }
-
-    @Says(of = OUTCOMES, value = "PICK of a LAW: whom; NONE (no PARISHES; LAW 4: none with LINES).")
-    private static void saysPick() {
-        ConstellationsByLot x = new ConstellationsByLot();
-        Checks.rowOfPoints(x, 2);
-        for (int law = 0; law < 6; law++) {
-            checks.due("no PARISHES: LAW " + law, x.pick(law), NONE);
-        }
-        Checks.parishes(x, 0, 1);
-        for (int law = 0; law < 6; law++) {
-            checks.due("no LINES: LAW " + law, x.pick(law), law == 4 ? NONE : 0);
-        }
-        Checks.wants(x, 1, 0, 1);
-        x.line(1, 0, 1);
-        for (int law = 0; law < 6; law++) {
-            checks.due("1 alone has LINES: LAW " + law, x.pick(law), 1);
-        }
-    }
-
-    @Says(of = OUTCOMES, value = "LAWS by a told CARD: those (bits) that PICK a told PARISH.")
-    private static void saysLawsByACard() {
-        ConstellationsByLot x = judged();
-        int[] bits = {1 << 1 | 1 << 4, 1 << 2, 1 << 3, 0, 1 << 5, 1};
-        for (int p = 0; p < 6; p++) {
-            checks.due("CARD " + p, x.laws(p), bits[p]);
-        }
-    }
-
-    // ---- WHOSE
-
-    private static void tell(ConstellationsByLot x, int s, int... points) {
-        x.row(s, 2, points.length);
-        for (int i = 0; i < points.length; i++) {
-            x.set(s, i, points[i]);
-        }
-    }
-
-    @Says(of = OUTCOMES, value = "WHOSE is a told figure, a ROW of pairs of POINTS: whose LINES differ least from it (pairs "
-            + "that are only told, and LINES that aren't told, together; each told pair counts once), "
-            + "of several the first: whom; by how many.")
-    private static void saysWhose() {
-        ConstellationsByLot x = new ConstellationsByLot();
-        Checks.rowOfPoints(x, 5);
-        Checks.parishes(x, 0, 0, 0);
-        for (int p = 0; p < 3; p++) {
-            Checks.wants(x, p, 0, 1, 2, 3, 4);
-        }
-        Checks.lines(x, 0, 0, 1, 1, 2, 2, 3);
-        Checks.lines(x, 1, 0, 1, 3, 4);
-        tell(x, 0, 1, 0, 4, 3);
-        checks.due("1's, told the other way", x.whose(0, 2, 0), 1);
-        checks.due("by none", x.whose(0, 2, 1), 0);
-        tell(x, 0, 0, 1, 1, 2, 3, 4);
-        checks.due("one only told from 1", x.whose(0, 3, 0), 1);
-        checks.due("by one", x.whose(0, 3, 1), 1);
-        tell(x, 0, 0, 1, 1, 2);
-        checks.due("one of 0's isn't told", x.whose(0, 2, 0), 0);
-        checks.due("that is one", x.whose(0, 2, 1), 1);
-        tell(x, 0, 2, 4);
-        checks.due("2 has no LINES", x.whose(0, 1, 0), 2);
-        checks.due("it is only told", x.whose(0, 1, 1), 1);
-        tell(x, 0, 2, 4, 4, 2, 2, 4, 4, 2);
-        checks.due("told four times, it counts once", x.whose(0, 4, 1), 1);
-        tell(x, 0, 0, 1, 1, 0, 1, 2, 1, 2, 4, 0, 0, 4);
-        checks.due("of several the first: 0 by 2, 2 by 3", x.whose(0, 6, 0), 0);
-        checks.due("only told and not told together", x.whose(0, 6, 1), 2);
-        tell(x, 0, 0, 1);
-        checks.due("1 and 2 by one each: the first", x.whose(0, 1, 0), 1);
-        for (int seed = 0; seed < 120; seed++) {
-            whoseByTrying(made(byChance(seed, 2 + seed % 5, 1 + seed % 6, 8)), seed);
-        }
-    }
-
-    private static void whoseByTrying(ConstellationsByLot x, int seed) {
-        Random random = new Random(seed);
-        int pairs = random.nextInt(9);
-        int points = x.status(0);
-        int[] row = new int[2 * pairs];
-        Set<Integer> told = new HashSet<>();
-        for (int i = 0; i < pairs; i++) {
-            row[2 * i] = random.nextInt(points);
-            row[2 * i + 1] = (row[2 * i] + 1 + random.nextInt(points - 1)) % points;
-            told.add(1 << row[2 * i] | 1 << row[2 * i + 1]);
-        }
-        tell(x, 3, row);
-        int least = Integer.MAX_VALUE;
-        int nearest = NONE;
-        for (int p = 0; p < x.status(1); p++) {
-            Set<Integer> only = new HashSet<>(told);
-            int notTold = 0;
-            for (int i = 0; i < x.parishOf(p, LINES); i++) {
-                int line = x.lineOf(p, i);
-                if (!only.remove(1 << line / 100 | 1 << line % 100)) {
-                    notTold++;
-                }
-            }
-            if (only.size() + notTold < least) {
-                least = only.size() + notTold;
-                nearest = p;
-            }
-        }
-        checks.due("sky " + seed + ": whom", x.whose(3, pairs, 0), nearest);
-        checks.due("sky " + seed + ": by how many", x.whose(3, pairs, 1), least);
-    }
-
-    // ---- SEEN
-
-    @Says(of = OUTCOMES, value = "SEEN: each POINT is hidden by CLOUD of 12 ways: of 1,000,000 (cut), how likely all one USES "
-            + "are seen; the mean of its LINES that are seen whole: 1000 times how many, times 12 less CLOUD times itself, "
-            + "by 144 (cut).")
-    private static void saysSeen() {
-        int[] ends = {0, 1, 1, 2, 3, 4, 4, 5, 6, 7, 8, 9, 10, 11, 0, 2, 3, 5, 7, 8};
-        for (int lines = 0; lines <= 10; lines++) {
-            ConstellationsByLot x = new ConstellationsByLot();
-            Checks.rowOfPoints(x, 12);
-            x.parish(0, 0);
-            Checks.wants(x, 0, 0, 1, 2, 3, 4, 5, 6, 7, 8, 9, 10, 11);
-            for (int i = 0; i < lines; i++) {
-                x.line(0, ends[2 * i], ends[2 * i + 1]);
-            }
-            int used = Integer.bitCount(x.parishOf(0, USED));
-            for (int cloud = 0; cloud <= 12; cloud++) {
-                x.cloud(cloud);
-                BigInteger ways = BigInteger.valueOf(12 - cloud).pow(used);
-                BigInteger likely = ways.multiply(BigInteger.valueOf(1000000)).divide(BigInteger.valueOf(12).pow(used));
-                String name = lines + " LINES, CLOUD " + cloud;
-                checks.due(name + ": all", x.seen(0, 0), likely.longValue());
-                checks.due(name + ": mean", x.seen(0, 1), 1000L * lines * (12 - cloud) * (12 - cloud) / 144);
-            }
-        }
-    }
-
-    // ---- IN TRUTH
-
-    @Says(of = OUTCOMES, value = "IN TRUTH: a LINE is drawn, or gone.")
-    private static void saysInTruth() {
-        ConstellationsByLot x = new ConstellationsByLot();
-        Checks.rowOfPoints(x, 2);
-        x.parish(0, 0);
-        Checks.wants(x, 0, 0, 1);
-        checks.due("none ahead", x.status(3), 0);
-        x.line(0, 0, 1);
-        checks.due("drawn", x.lineOf(0, 0), 1);
-        x.drop(0, 0, 1);
-        checks.due("gone", x.status(3), 0);
-    }
-
-    private static int nextSeed(int seed) {
-        return BigInteger.valueOf(seed).multiply(BigInteger.valueOf(1103515245)).add(BigInteger.valueOf(12345)).intValue();
-    }
-
-    private static int upperBits(int seed) {
-        return Integer.parseInt(String.format("%08x", seed).substring(0, 4), 16);
-    }
-
-    /** The NIGHTS are gone through with line and drop on an object of its own. */
-    @Says(of = OUTCOMES, value = {"NIGHTS by draws, n: each: PARISH by PARISH: a DRAW below how many POINTS it WANTS, and "
-            + "again: those two by number among them (fewer than two: no DRAWS): if they are unlike, the LINE is gone, if it "
-            + "is drawn, else it is drawn, if there is room; how many are drawn in all then.",
-            "A DRAW below n: SEED (1 at first) becomes SEED times 1103515245, and 12345 (an int, wrapping); its upper 16 "
-            + "bits, no sign, modulo n."})
-    private static void saysNights() {
-        for (int seed = 0; seed < 80; seed++) {
-            Consumer<ConstellationsByLot> start = byChance(seed, seed % 13, seed % 7, 1 + seed % 10);
-            int nights = 1 + seed % 40;
-            ConstellationsByLot x = made(start);
-            int at = seed % 2 == 0 ? x.status(7) : new Random(seed).nextInt();
-            x.seed(at);
-            int told = x.nights(nights);
-            ConstellationsByLot y = made(start);
-            for (int i = 0; i < nights; i++) {
-                for (int p = 0; p < y.status(1); p++) {
-                    List<Integer> wanted = bits(y.parishOf(p, WANTS));
-                    if (wanted.size() < 2) {
-                        continue;
-                    }
-                    at = nextSeed(at);
-                    int from = wanted.get(upperBits(at) % wanted.size());
-                    at = nextSeed(at);
-                    int to = wanted.get(upperBits(at) % wanted.size());
-                    if (from != to && y.drop(p, from, to) < 0) {
-                        y.line(p, from, to);
-                    }
-                }
-            }
-            checks.due("sky " + seed + ": how many", told, y.status(3));
-            checks.due("sky " + seed + ": SEED", x.status(7), at);
-            sameLines("sky " + seed, x, y);
-        }
-        checks.due("SEED at first", new ConstellationsByLot().status(7), 1);
-    }
-
-    private static void sameLines(String name, ConstellationsByLot x, ConstellationsByLot y) {
-        for (int p = 0; p < y.status(1); p++) {
-            checks.due(name + ": LINES of " + p, x.parishOf(p, LINES), y.parishOf(p, LINES));
-            for (int i = 0; i < y.parishOf(p, LINES); i++) {
-                checks.due(name + ": LINE " + i + " of " + p, x.lineOf(p, i), y.lineOf(p, i));
-            }
-        }
-    }
-
-    // ---- SHELVES
-
-    @Says(of = OUTCOMES, value = "SHELVES 0 to 7 hold NOTHING (at first), a ROW, or a PARISH.")
-    private static void saysShelves() {
-        ConstellationsByLot x = new ConstellationsByLot();
-        x.parish(0, 0);
-        for (int s = 0; s < 8; s++) {
-            checks.due("NOTHING at first: " + s, x.holds(s), NONE);
-            x.row(s, s % 5, s);
-            checks.due("a ROW: " + s, x.holds(s), s % 5);
-            x.show(s, 0);
-            checks.due("a PARISH: " + s, x.holds(s), 10);
-            x.show(s, NONE);
-            checks.due("NOTHING: " + s, x.holds(s), NONE);
-        }
-        checks.due("no SHELF -1", x.row(-1, 0, 0), -2);
-        checks.due("no SHELF 8", x.row(8, 0, 0), -2);
-    }
-
-    @Says(of = OUTCOMES, value = "A ROW has a SORT (0 bytes, 1 shorts, 2 ints, 3 longs, 4 booleans) and 0 to 40 elements "
-            + "(0, or not so, at first); what is put in keeps its lowest bits (of booleans: whether it is not 0); "
-            + "told they are numbers (1, 0).")
-    private static void saysRows() {
-        long[] values = {0, 1, -1, 127, 128, 255, 256, 32767, 32768, 65536, 1L << 31, 1L << 32, 1L << 40, 1L << 63, -129};
-        for (int sort = 0; sort < 5; sort++) {
-            for (int n = 0; n <= 40; n++) {
-                ConstellationsByLot x = new ConstellationsByLot();
-                checks.due("a ROW of " + n, x.row(0, sort, n), 1);
-                checks.due("one more is none", x.set(0, n, 1), -2);
-                for (int i = 0; i < n; i++) {
-                    checks.due("0 at first", x.element(0, i), 0);
-                    long v = values[(n + i) % values.length];
-                    checks.due("put", x.set(0, i, v), 1);
-                    checks.due("SORT " + sort + " keeps of " + v, x.element(0, i), kept(sort, v));
-                }
-            }
-            checks.due("41 elements", new ConstellationsByLot().row(0, sort, 41), -2);
-        }
-        checks.due("no SORT 5", new ConstellationsByLot().row(0, 5, 1), -2);
-    }
-
-    /** The lowest bits by remainders: so many values, the upper half of them below 0, as Java's types have it. */
-    private static long kept(int sort, long v) {
-        if (sort == 4) {
-            return v == 0 ? 0 : 1;
-        }
-        BigInteger values = BigInteger.ONE.shiftLeft(8 << sort);
-        BigInteger low = BigInteger.valueOf(v).mod(values);
-        boolean isUpper = low.shiftLeft(1).compareTo(values) >= 0;
-        return (isUpper ? low.subtract(values) : low).longValueExact();
     }
 }

@@ -21,14 +21,8 @@ public final class SaidOfTheSkyTest {
         Checks.wants(x, 0, 0, 1, 2);
     }
 
-    private static ConstellationsByLot made(Consumer<ConstellationsByLot> start) {
-        ConstellationsByLot x = new ConstellationsByLot();
-        start.accept(x);
-        return x;
-    }
-
     private static int read(Consumer<ConstellationsByLot> start, String text) {
-        return Checks.read(made(start), text);
+        return Checks.read(Checks.made(start), text);
     }
 
     private static void reads(String text, int due) {
@@ -158,7 +152,7 @@ public final class SaidOfTheSkyTest {
 
     @Says(of = SKY, value = "LINES: pairs of unlike POINTS it WANTS, each pair once,")
     private static void saysLinesArePairs() {
-        ConstellationsByLot x = made(SaidOfTheSkyTest::small);
+        ConstellationsByLot x = Checks.made(SaidOfTheSkyTest::small);
         checks.due("like POINTS", x.line(0, 1, 1), BAD);
         checks.due("one it doesn't want", x.line(0, 0, 3), STUCK);
         checks.due("a pair", x.line(0, 0, 1), 1);
@@ -207,7 +201,7 @@ public final class SaidOfTheSkyTest {
     }
 
     private static int lit(int cloud) {
-        ConstellationsByLot x = made(SaidOfTheSkyTest::small);
+        ConstellationsByLot x = Checks.made(SaidOfTheSkyTest::small);
         x.line(0, 0, 1);
         x.cloud(cloud);
         return x.seen(0, 1);
@@ -311,7 +305,7 @@ public final class SaidOfTheSkyTest {
 
     @Says(of = SKY, value = "wants X P;")
     private static void saysWants() {
-        ConstellationsByLot x = made(SaidOfTheSkyTest::small);
+        ConstellationsByLot x = Checks.made(SaidOfTheSkyTest::small);
         checks.due("read", Checks.read(x, "wants 1 2"), 1);
         checks.due("X WANTS P", x.parishOf(1, 10), 4);
         checks.due("the other as it was", x.parishOf(0, 10), 7);
@@ -321,7 +315,7 @@ public final class SaidOfTheSkyTest {
 
     @Says(of = SKY, value = "line X P Q")
     private static void saysLine() {
-        ConstellationsByLot x = made(SaidOfTheSkyTest::small);
+        ConstellationsByLot x = Checks.made(SaidOfTheSkyTest::small);
         checks.due("read", Checks.read(x, "line 0 2 1"), 1);
         checks.due("as told", x.lineOf(0, 0), 201);
         checks.due("X's alone", x.status(3), 1);
@@ -340,6 +334,7 @@ public final class SaidOfTheSkyTest {
         reads("line 0 0 1;line 0 0 1", -40);
         reads("line 0 0 1;line 0 1 0", -40);
         reads("wants 1 0;wants 1 1;line 0 0 1;line 1 0 1", 4);
+        reads("wants 0 3;line 0 0 3;line 0 3 1", 3);
         checks.due("drawn ahead", read(x -> {
             small(x);
             x.line(0, 2, 0);
@@ -386,6 +381,14 @@ public final class SaidOfTheSkyTest {
         reads("point 1;1", -27);
         reads("cloud 1;oh;13", -28);
         reads("cloud oh;oh", -26);
+        String[] words = {"point 1 1", "parish 1 1", "wants 0 0", "line 0 0 1", "cloud 1"};
+        for (String word : words) {
+            reads(word, 1);
+            for (int i = 0; i < word.indexOf(' '); i++) {
+                reads(word.substring(0, i) + "x" + word.substring(i + 1), -20);
+                reads(word.substring(0, i) + word.substring(i + 1), -20);
+            }
+        }
     }
 
     @Says(of = SKY, value = "(also a NUMBER that may not be, or has more than 2 digits;")

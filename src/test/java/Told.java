@@ -26,25 +26,19 @@ final class Told {
 
     private static Told of(Consumer<ConstellationsByLot> made) {
         Told told = new Told();
-        told.sky("", make(made));
-        told.shelves(make(made));
-        told.rows(make(made), 0, 4);
-        told.rows(make(made), 4, 8);
-        ConstellationsByLot read = make(made);
+        told.sky("", Checks.made(made));
+        told.shelves(Checks.made(made));
+        told.rows(Checks.made(made), 0, 4);
+        told.rows(Checks.made(made), 4, 8);
+        ConstellationsByLot read = Checks.made(made);
         told.all.put("READ", (long) read.sky());
         told.all.put("READ CLOUD", (long) read.status(2));
-        ConstellationsByLot kept = make(made);
+        ConstellationsByLot kept = Checks.made(made);
         told.all.put("KEPT", (long) kept.back());
         if (told.all.get("KEPT") == 1) {
             told.sky("KEPT ", kept);
         }
         return told;
-    }
-
-    private static ConstellationsByLot make(Consumer<ConstellationsByLot> made) {
-        ConstellationsByLot x = new ConstellationsByLot();
-        made.accept(x);
-        return x;
     }
 
     private void sky(String when, ConstellationsByLot x) {
@@ -105,7 +99,7 @@ final class Told {
     /** A call's answer, and all that it changes; each change as name=answer. */
     static void changes(Checks checks, String name, Consumer<ConstellationsByLot> start,
             ToLongFunction<ConstellationsByLot> call, long answer, String... changes) {
-        checks.due(name, call.applyAsLong(make(start)), answer);
+        checks.due(name, call.applyAsLong(Checks.made(start)), answer);
         Map<String, String> due = new TreeMap<>();
         for (String change : changes) {
             int is = change.lastIndexOf('=');

@@ -51,20 +51,14 @@ final class Twins {
 
     private void answers(String name, Consumer<ConstellationsByLot> start,
             ToLongFunction<ConstellationsByLot> call, long answer) {
-        checks.due(name, call.applyAsLong(made(start)), answer);
-    }
-
-    private static ConstellationsByLot made(Consumer<ConstellationsByLot> start) {
-        ConstellationsByLot x = new ConstellationsByLot();
-        start.accept(x);
-        return x;
+        checks.due(name, call.applyAsLong(Checks.made(start)), answer);
     }
 
     private void compare(String name, Consumer<ConstellationsByLot> start, Consumer<ConstellationsByLot> one,
             Consumer<ConstellationsByLot> other, int refusal) {
         for (Part part : Part.values()) {
-            ConstellationsByLot x = made(start);
-            ConstellationsByLot y = made(start);
+            ConstellationsByLot x = Checks.made(start);
+            ConstellationsByLot y = Checks.made(start);
             one.accept(x);
             other.accept(y);
             for (int k = 0; k < REFUSALS; k++) {
