@@ -400,6 +400,24 @@ public final class SaidOfOutcomesTest {
         }
     }
 
+    /** All six WANT each of five POINTS, but only PARISH 5 has LINES there, and it needs them all. */
+    @Says(of = OUTCOMES, value = {})
+    private static void saysShareOfTheLastRow() {
+        ConstellationsByLot x = new ConstellationsByLot();
+        Checks.points(x, 0, 1, 1, 1, 2, 1, 3, 1, 4, 1, 5, 9, 6, 9);
+        for (int p = 0; p < 6; p++) {
+            x.parish(0, 0);
+            Checks.wants(x, p, 0, 1, 2, 3, 4, 5, 6);
+            Checks.lines(x, p, 5, 6);
+        }
+        x.drop(5, 5, 6);
+        Checks.lines(x, 5, 0, 1, 1, 2, 2, 3, 3, 4);
+        checks.due("5 POINTS and 4 LINES", x.share(NONE), 9);
+        for (int i = 0; i < 5; i++) {
+            checks.due("to the last: " + i, x.share(i), 5);
+        }
+    }
+
     // ---- COLOURS and WAY
 
     private static boolean[][] bound(ConstellationsByLot x) {

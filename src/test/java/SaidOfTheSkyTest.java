@@ -429,6 +429,9 @@ public final class SaidOfTheSkyTest {
         checks.due("PARISHES", read(full, "cloud 1; parish 0 0"), -29);
         checks.due("LINES", read(full, "cloud 1; line 0 0 5"), -34);
         checks.due("LINES of another", read(full, "cloud 1; line 1 0 1"), 2);
+        checks.due("no PARISH 6", read(full, "wants 6 0"), -26);
+        checks.due("no LINES of PARISH 6", read(full, "line 6 0 1"), -25);
+        checks.due("no POINT 12", read(full, "wants 5 12"), -28);
         checks.due("the word ahead of its NUMBERS", read(full, "point 100 10"), -20);
         checks.due("X ahead of P", read(full, "line 0 99 0"), -25);
         checks.due("the 13th in one SKY", read(x -> { }, "point 0 1;".repeat(13)), -140);
